@@ -373,6 +373,15 @@ public final class SheetFolder {
             return p;
         }
 
+        /** The least end of a bend, which panel and parent share however it is folded. */
+        private int bendX(int bend) {
+            return limit[side[bend] == WEST ? EAST : WEST][bend];
+        }
+
+        private int bendY(int bend) {
+            return limit[side[bend] == SOUTH ? NORTH : SOUTH][bend];
+        }
+
         private void turnOver() {
             int width = limit[EAST][0];
             for (int p = 0; p < panels; p++) {
@@ -535,9 +544,8 @@ public final class SheetFolder {
 
         private void setCorner(Plan plan, int p) {
             int to = plan.parent[p];
-            // A place on the bend, which parent and panel share however it is folded.
-            int x = plan.limit[plan.side[p] == WEST ? EAST : WEST][p];
-            int y = plan.limit[plan.side[p] == SOUTH ? NORTH : SOUTH][p];
+            int x = plan.bendX(p);
+            int y = plan.bendY(p);
             int inX = x - plan.limit[WEST][p];
             int inY = y - plan.limit[SOUTH][p];
             for (int axis = 0; axis < AXES; axis++) {
@@ -634,11 +642,11 @@ public final class SheetFolder {
         /** Both ends of a bend are at the same place, whether they go with the panel or with its parent. */
         private boolean isBendShared(Plan plan, int p) {
             int to = plan.parent[p];
-            int side = plan.side[p];
-            int nearX = plan.limit[side == WEST ? EAST : WEST][p];
-            int nearY = plan.limit[side == SOUTH ? NORTH : SOUTH][p];
-            int farX = isAcrossX(side) ? nearX : plan.limit[EAST][p];
-            int farY = isAcrossX(side) ? plan.limit[NORTH][p] : nearY;
+            boolean isAlongY = isAcrossX(plan.side[p]);
+            int nearX = plan.bendX(p);
+            int nearY = plan.bendY(p);
+            int farX = isAlongY ? nearX : plan.limit[EAST][p];
+            int farY = isAlongY ? plan.limit[NORTH][p] : nearY;
             for (int axis = 0; axis < AXES; axis++) {
                 if (inSpace(plan, p, nearX, nearY, axis) != inSpace(plan, to, nearX, nearY, axis)
                         || inSpace(plan, p, farX, farY, axis) != inSpace(plan, to, farX, farY, axis)) {

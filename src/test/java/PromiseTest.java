@@ -645,6 +645,9 @@ public final class PromiseTest {
         due("not clear: first", y.clear(0, 1), 0);
         due("not clear: order", y.order(), NONE);
         due("not clear: count(1)", y.count(1), 1);
+        y.base(100, 100);
+        dueSteps("a new base after no order", y);
+        due("a new base after no order: count(1)", y.count(1), 1);
     }
 
     private static void greatestPart() {
@@ -658,6 +661,13 @@ public final class PromiseTest {
         due("12 flanges count(0)", x.count(0), 13);
         due("12 flanges all folded", x.meets(8190), 0);
         due("12 flanges bit 13", x.meets(8192), NONE);
+        due("12 flanges flat", x.flat(), 0);
+        due("12 flanges check()", x.check(), 1);
+        due("12 flanges over()", x.over(), 1);
+        dueSteps("12 flanges over", x, 1, 2, 3, 4, 5, 6, 7, 8, 9, 10, 11, 12);
+        x.gauge(1001);
+        due("12 flanges edge", x.edge(0, 12), NONE);
+        x.gauge(80);
         x.base(2000, 2000);
         for (int k = 0; k < 12; k++) {
             x.panel(k, 0, 0, 2000, 2000, 1);
