@@ -16,9 +16,11 @@ public final class FaceTest {
         "base 2", "panel 6", "deduction 1", "gauge 1", "over 0", "flat 0", "wrong 1", "flatOf 2", "size 1", "place 3",
         "meets 1", "moves 1", "clear 2", "edge 2", "order 0", "step 1", "count 1", "check 0"};
     private static final String[] RULED_OUT = {
-        "\\bimport\\b", "\\bpackage\\b", "\\bcatch\\b", "\\btry\\b", "\\bfinally\\b", "\\bthrow\\b", "->", "::",
-        "Exact\\b", "\\bsynchronized\\b", "\\bassert\\b", "\\bvar\\b", "\\bSystem\\.(?!arraycopy)", "\\bThread\\b",
-        "\\bRandom\\b", "\\bprotected\\b", "\\bstatic\\s*\\{"};
+        "\\bimport\\s+(?!java\\.util\\.(ArrayList|List|Arrays|Iterator|NoSuchElementException);)", "\\bpackage\\b",
+        "\\bfinally\\b", "::", "Exact\\b", "\\bsynchronized\\b", "\\bassert\\b", "\\bSystem\\.(?!arraycopy)",
+        "\\bThread\\b", "\\bRandom\\b", "\\bprotected\\b", "\\bstatic\\s*\\{",
+        "\\bcatch\\s*\\([^)]*\\b(ArrayIndexOutOfBounds|NullPointer|ClassCast|NegativeArraySize|ArrayStore)?Exception\\b",
+        "\\bThrowable\\b", "\\bError\\b"};
     private static final int MOST_FIELDS = 20;
     private static final int MOST_PARAMETERS = 7;
     private static final int MOST_CLASSES = 12;

@@ -6,7 +6,8 @@ import java.util.Set;
 
 /**
  * Small parts, made by a fixed row of numbers, against answers counted out point by point from the document's words.
- * All lengths inside are doubled, so that the points between two whole places are whole numbers too.
+ * All lengths inside are doubled, so that the points between two whole places are whole numbers too. A part is made
+ * anew on another object for each set of folded bends, so that none of them is used for more than 512 calls.
  */
 public final class OracleTest {
     private static final int PARTS = 400;
@@ -31,12 +32,10 @@ public final class OracleTest {
     }
 
     private static void compare(String name, Part part, int[] seen) {
-        SheetFolder x = part.folder;
         int n = part.rows.size();
-        Due.due(name + " count(0)", x.count(0), n);
-        Due.due(name + " check()", x.check(), 1);
         compareFlat(name, part);
         for (int bits = 0; bits < 1 << n; bits += 2) {
+            SheetFolder x = part.renew();
             comparePlaces(name + " bits " + bits, part, bits);
             int meets = part.meets(bits);
             seen[2] += meets > 0 ? 1 : 0;
@@ -55,8 +54,10 @@ public final class OracleTest {
     }
 
     private static void compareFlat(String name, Part part) {
-        SheetFolder x = part.folder;
+        SheetFolder x = part.renew();
         int[] want = part.flat();
+        Due.due(name + " count(0)", x.count(0), part.rows.size());
+        Due.due(name + " check()", x.check(), 1);
         Due.due(name + " flat()", x.flat(), want[0]);
         Due.due(name + " wrong(0)", x.wrong(0), want[1]);
         Due.due(name + " wrong(1)", x.wrong(1), want[2]);
@@ -88,7 +89,7 @@ public final class OracleTest {
     }
 
     private static void compareOrder(String name, Part part, int[] seen) {
-        SheetFolder x = part.folder;
+        SheetFolder x = part.renew();
         int n = part.rows.size();
         List<Integer> order = part.leastOrder(0);
         Due.due(name + " order()", x.order(), order == null ? -1 : n - 1);
@@ -119,9 +120,11 @@ public final class OracleTest {
     }
 
     private static final class Part {
-        final SheetFolder folder = new SheetFolder();
+        SheetFolder folder;
+        final List<int[]> made = new ArrayList<>();
         final List<Row> rows = new ArrayList<>();
         final boolean[][] can = new boolean[1 << MOST][MOST];
+        boolean isOver;
         int deduction;
         int gauge;
 
@@ -133,7 +136,6 @@ public final class OracleTest {
             base.x1 = 2 * (1 + random.nextInt(6));
             base.y1 = 2 * (1 + random.nextInt(6));
             part.rows.add(base);
-            part.folder.base(base.x1 / 2, base.y1 / 2);
             int panels = 2 + random.nextInt(MOST - 1);
             // A part of one kind of side, or nearly, has more chains and hooks in it.
             int kind = random.nextInt(3);
@@ -145,9 +147,23 @@ public final class OracleTest {
             }
             part.deduction = 2 * random.nextInt(3);
             part.gauge = 1 + random.nextInt(random.nextBoolean() ? 2 : 5);
-            part.folder.deduction(part.deduction);
-            part.folder.gauge(part.gauge);
+            part.isOver = turnedOver;
             return part;
+        }
+
+        /** The same part on a new object. */
+        SheetFolder renew() {
+            folder = new SheetFolder();
+            folder.base(rows.get(0).x1 / 2, rows.get(0).y1 / 2);
+            for (int[] a : made) {
+                Due.due("panel", folder.panel(a[0], a[1], a[2], a[3], a[4], a[5]), a[6]);
+            }
+            if (isOver) {
+                Due.due("over()", folder.over(), 1);
+            }
+            folder.deduction(deduction);
+            folder.gauge(gauge);
+            return folder;
         }
 
         private void join(Random random, int kind) {
@@ -160,8 +176,7 @@ public final class OracleTest {
             int deep = 1 + random.nextInt(6);
             int up = random.nextInt(4) == 0 ? 0 : 1;
             boolean isRefused = parent > 0 && (side + 2) % 4 == to.side;
-            int got = folder.panel(parent, side, offset, wide, deep, up);
-            Due.due("panel", got, isRefused ? -1 : rows.size());
+            made.add(new int[] {parent, side, offset, wide, deep, up, isRefused ? -1 : rows.size()});
             if (isRefused) {
                 return;
             }
@@ -184,7 +199,6 @@ public final class OracleTest {
         }
 
         private void turnOver() {
-            Due.due("over()", folder.over(), 1);
             int width = rows.get(0).x1;
             for (Row row : rows) {
                 int x0 = row.x0;

@@ -1,9 +1,18 @@
-/** Each promise by hand: ordinary inputs, the edges that the document names, and wrong inputs. */
+/**
+ * The promises 1 to 19, a test for each sentence: ordinary inputs, both sides of each boundary that it names, and
+ * refused calls, after which all is as before.
+ */
 public final class PromiseTest {
-    private static final int NONE = SheetFolder.NONE;
-    private static final int NOWHERE = SheetFolder.NOWHERE;
-    private static final int LEAST = Integer.MIN_VALUE;
-    private static final int GREATEST = Integer.MAX_VALUE;
+    private static final int NONE = Parts.NONE;
+    private static final int NOWHERE = Parts.NOWHERE;
+    private static final int LEAST = Parts.LEAST;
+    private static final int GREATEST = Parts.GREATEST;
+    private static final int EAST = Parts.EAST;
+    private static final int NORTH = Parts.NORTH;
+    private static final int WEST = Parts.WEST;
+    private static final int SOUTH = Parts.SOUTH;
+    private static final int UP = Parts.UP;
+    private static final int DOWN = Parts.DOWN;
 
     private PromiseTest() {
     }
@@ -12,33 +21,22 @@ public final class PromiseTest {
         newObject();
         base();
         panel();
-        panelWithinItsSide();
-        deduction();
-        gauge();
+        panelRefused();
+        deductionAndGauge();
         over();
-        overFlatAndEdges();
-        flatWithoutWidth();
-        flatOverlap();
-        wrongStays();
+        flat();
+        flatFirstPair();
+        wrong();
         flatOf();
-        flatOfInsideOut();
         size();
         place();
-        placeOnEachSide();
-        placeWrong();
         meets();
-        meetsAtAnEdge();
         moves();
-        clearByBands();
-        clearByPlacesAlong();
-        clearOfTheOtherSide();
-        clearWrong();
+        clear();
         edge();
-        orderOtherThanNumbers();
-        orderChangesWithThePart();
-        noOrder();
-        greatestPart();
-        countWrong();
+        order();
+        step();
+        count();
         check();
         Due.end();
     }
@@ -47,654 +45,791 @@ public final class PromiseTest {
         Due.due(call, got, want);
     }
 
-    private static void duePlace(String name, SheetFolder x, int bits, int p, int... want) {
-        for (int what = 0; what < 6; what++) {
-            due(name + " place(" + bits + ", " + p + ", " + what + ")", x.place(bits, p, what), want[what]);
-        }
+    private static int join(SheetFolder x, int parent, int side, int offset, int wide, int deep, int up) {
+        return Parts.join(x, parent, side, offset, wide, deep, up);
     }
 
-    private static void dueFlat(String name, SheetFolder x, int p, int... want) {
-        for (int what = 0; what < 4; what++) {
-            due(name + " flatOf(" + p + ", " + what + ")", x.flatOf(p, what), want[what]);
-        }
-    }
-
-    private static void dueSteps(String name, SheetFolder x, int... want) {
-        due(name + " order()", x.order(), want.length);
-        for (int i = 0; i < want.length; i++) {
-            due(name + " step(" + i + ")", x.step(i), want[i]);
-        }
-        due(name + " step after the last", x.step(want.length), NONE);
-        due(name + " step(-1)", x.step(-1), NONE);
-    }
-
-    /** Panel 1 east of the base, up; panel 2 north of panel 1, down. */
-    private static SheetFolder corner() {
-        SheetFolder x = new SheetFolder();
-        x.base(100, 80);
-        x.panel(0, 0, 10, 50, 30, 1);
-        x.panel(1, 1, 5, 20, 15, 0);
-        return x;
-    }
-
-    /** A chain to the east: panel 1 50 deep, panel 2 as deep as is said, all up. */
-    private static SheetFolder channel(int deep) {
-        SheetFolder x = new SheetFolder();
-        x.base(100, 100);
-        x.panel(0, 0, 0, 100, 50, 1);
-        x.panel(1, 0, 0, 100, deep, 1);
-        return x;
+    private static void dueSame(String name, SheetFolder x, String before) {
+        Due.dueTrue(name + ": all is as before", Parts.shown(x).equals(before));
     }
 
     private static void newObject() {
+        Due.sentence("1: No panels");
         SheetFolder x = new SheetFolder();
-        due("new count(0)", x.count(0), 0);
-        due("new count(1)", x.count(1), 0);
-        due("new wrong(0)", x.wrong(0), NONE);
-        due("new wrong(1)", x.wrong(1), NONE);
-        due("new panel", x.panel(0, 0, 0, 1, 1, 1), NONE);
-        due("new moves(0)", x.moves(0), NONE);
-        due("new check()", x.check(), 1);
-        due("NONE", SheetFolder.NONE, -1);
-        due("NOWHERE", SheetFolder.NOWHERE, -1000000);
+        due("count(0)", x.count(0), 0);
+        due("place of panel 0", x.place(0, 0, 0), NOWHERE);
+        due("panel at panel 0", x.panel(0, 0, 0, 1, 1, 1), NONE);
+        Due.sentence("1: no deduction");
         x.base(100, 50);
-        x.panel(0, 0, 0, 50, 10, 1);
-        due("new: no deduction", x.size(0), 110);
+        join(x, 0, EAST, 0, 50, 10, UP);
+        due("size(0)", x.size(0), 110);
+        due("size(0) with one", x.deduction(2) + x.size(0), 109);
     }
 
     private static void base() {
-        SheetFolder x = new SheetFolder();
-        due("base(2000, 2000)", x.base(2000, 2000), 1);
-        due("base(1, 1)", x.base(1, 1), 1);
-        duePlace("base", x, 0, 0, 0, 0, 0, 1, 1, 0);
-        x.base(30, 40);
-        x.panel(0, 0, 0, 10, 10, 1);
-        due("base(0, 5)", x.base(0, 5), 0);
-        due("base(5, 0)", x.base(5, 0), 0);
-        due("base(2001, 5)", x.base(2001, 5), 0);
-        due("base(5, 2001)", x.base(5, 2001), 0);
-        due("base(LEAST, 5)", x.base(LEAST, 5), 0);
-        due("base(5, GREATEST)", x.base(5, GREATEST), 0);
-        due("refused bases change nothing: panels", x.count(0), 2);
-        duePlace("refused bases", x, 0, 0, 0, 0, 0, 30, 40, 0);
-        x.deduction(4);
-        x.gauge(20);
+        newBase();
+        baseSides();
+        baseRefused();
+    }
+
+    private static void newBase() {
+        Due.sentence("2: A new base, all other panels are no more: 1");
+        SheetFolder x = Parts.channel(120);
         due("base(60, 70)", x.base(60, 70), 1);
-        due("a new base: no other panel", x.count(0), 1);
-        due("a new base: panel 1 is no more", x.place(0, 1, 0), NOWHERE);
-        due("a new base: its sides have no bends", x.size(0), 60);
-        due("a new base: panel is 1 again", x.panel(0, 0, 0, 10, 10, 1), 1);
-        due("a new base keeps the deduction", x.size(0), 66);
-        due("a new base keeps the gauge", x.edge(0, 1), 2);
+        due("panels", x.count(0), 1);
+        Parts.duePlace("the new one", x, 0, 0, 0, 0, 0, 60, 70, 0);
+        due("panel 1 is no more", x.place(0, 1, 0), NOWHERE);
+        due("panel 1 is not in the flat pattern", x.flatOf(1, 0), NOWHERE);
+        due("bend 1 is no more", x.moves(1), NONE);
+        due("bit 1 is no more", x.meets(2), NONE);
+        Parts.dueSteps("nothing to fold", x);
+        due("one set", x.count(1), 1);
+        x.deduction(10);
+        due("no side has a bend any more", x.size(0), 60);
+        due("the first panel again", x.panel(0, NORTH, 0, 10, 10, UP), 1);
+        due("all sides but one are free", x.gauge(60) + x.edge(0, 1), 1 + SOUTH);
+        SheetFolder y = Parts.flanges(12);
+        y.base(10, 10);
+        due("there is room for twelve again", y.panel(0, EAST, 0, 10, 10, UP), 1);
+    }
+
+    private static void baseSides() {
+        Due.sentence("2: when its sides are not 1 .. 2000");
+        int[] wrong = {LEAST, -2000, -1, 0, 2001, 4000, 65537, GREATEST};
+        for (int side : wrong) {
+            SheetFolder x = new SheetFolder();
+            due("base(" + side + ", 5)", x.base(side, 5), 0);
+            due("base(5, " + side + ")", x.base(5, side), 0);
+            due("base(" + side + ", " + side + ")", x.base(side, side), 0);
+            due("no base", x.count(0), 0);
+        }
+        int[] right = {1, 2, 1999, 2000};
+        for (int side : right) {
+            SheetFolder x = new SheetFolder();
+            due("base(" + side + ", 5)", x.base(side, 5), 1);
+            due("base(5, " + side + ")", x.base(5, side), 1);
+            due("base(" + side + ", " + side + ")", x.base(side, side), 1);
+            Parts.duePlace("base", x, 0, 0, 0, 0, 0, side, side, 0);
+        }
+    }
+
+    private static void baseRefused() {
+        Due.sentence("2: 0, and nothing is done");
+        SheetFolder x = Parts.channel(120);
+        x.deduction(4);
+        x.gauge(90);
+        String before = Parts.shown(x);
+        due("too narrow", x.base(0, 5), 0);
+        due("too high", x.base(5, 2001), 0);
+        dueSame("after them", x, before);
     }
 
     private static void panel() {
-        SheetFolder x = new SheetFolder();
-        x.base(100, 80);
-        due("panel no parent", x.panel(1, 0, 0, 10, 10, 1), NONE);
-        due("panel parent -1", x.panel(-1, 0, 0, 10, 10, 1), NONE);
-        due("panel parent GREATEST", x.panel(GREATEST, 0, 0, 10, 10, 1), NONE);
-        due("panel side 4", x.panel(0, 4, 0, 10, 10, 1), NONE);
-        due("panel side -1", x.panel(0, -1, 0, 10, 10, 1), NONE);
-        due("panel up 2", x.panel(0, 0, 0, 10, 10, 2), NONE);
-        due("panel up -1", x.panel(0, 0, 0, 10, 10, -1), NONE);
-        due("panel 0 wide", x.panel(0, 0, 0, 0, 10, 1), NONE);
-        due("panel 0 deep", x.panel(0, 0, 0, 10, 0, 1), NONE);
-        due("panel 2001 deep", x.panel(0, 0, 0, 10, 2001, 1), NONE);
-        due("refused panels are none", x.count(0), 1);
-        due("panel 2000 deep", x.panel(0, 0, 0, 10, 2000, 1), 1);
-        for (int side = 0; side < 4; side++) {
-            x.base(100, 80);
-            x.panel(0, side, 0, 80, 50, 1);
-            int back = (side + 2) % 4;
-            due("panel on the side it is joined by", x.panel(1, back, 0, 10, 10, 1), NONE);
-            due("panel on the opposite side", x.panel(1, side, 0, 10, 10, 1), 2);
-            due("panel on the side beside", x.panel(1, (side + 1) % 4, 0, 10, 10, 0), 3);
-            due("second panel on a side", x.panel(1, side, 20, 10, 10, 1), 4);
-        }
-        x.base(100, 100);
-        for (int p = 1; p < 13; p++) {
-            due("panel " + p, x.panel(0, p % 4, p, 1, 1, 1), p);
-        }
-        due("panel 13", x.panel(0, 0, 50, 1, 1, 1), NONE);
-        due("13 panels", x.count(0), 13);
+        Due.sentence("3: One more panel, its bend up (1) or down (0): its number");
+        SheetFolder x = Parts.based(100, 80);
+        due("up", x.panel(0, EAST, 0, 10, 10, 1), 1);
+        due("down", x.panel(0, WEST, 0, 10, 10, 0), 2);
+        due("up stands", x.place(2, 1, 5), 10);
+        due("down hangs", x.place(4, 2, 2), -10);
+        due("neither: 2", x.panel(0, NORTH, 0, 10, 10, 2), NONE);
+        due("neither: -1", x.panel(0, NORTH, 0, 10, 10, -1), NONE);
+        due("neither: LEAST", x.panel(0, NORTH, 0, 10, 10, LEAST), NONE);
+        due("panels", x.count(0), 3);
+        due("joined to panel 1", x.panel(1, EAST, 0, 10, 10, 1), 3);
+        Due.sentence("3: or there are 13");
+        SheetFolder y = Parts.flanges(11);
+        due("the thirteenth", y.panel(0, SOUTH, 600, 200, 100, UP), 12);
+        due("the fourteenth", y.panel(0, SOUTH, 700, 10, 10, UP), NONE);
+        due("the fourteenth, at another panel", y.panel(12, SOUTH, 0, 10, 10, UP), NONE);
+        dueSame("full", y, Parts.shown(Parts.flanges(12)));
     }
 
-    private static void panelWithinItsSide() {
+    private static void panelRefused() {
+        panelParent();
+        panelSide();
+        panelWithinTheSide();
+        panelWideAndDeep();
+        panelNothingDone();
+    }
+
+    private static void panelParent() {
+        Due.sentence("3: NONE when there is no such parent");
+        SheetFolder x = Parts.corner();
+        int[] wrong = {LEAST, -2, -1, 3, 4, 12, 13, 14, GREATEST};
+        for (int parent : wrong) {
+            due("parent " + parent, x.panel(parent, SOUTH, 0, 1, 1, UP), NONE);
+        }
+        due("the last parent", x.panel(2, EAST, 0, 1, 1, UP), 3);
+        due("the newest one", x.panel(3, EAST, 0, 1, 1, UP), 4);
+        Due.sentence("3: no such parent, without a base");
+        for (int parent = -1; parent < 3; parent++) {
+            due("parent " + parent, new SheetFolder().panel(parent, EAST, 0, 1, 1, UP), NONE);
+        }
+    }
+
+    private static void panelSide() {
+        Due.sentence("3: NONE when there is no such side");
+        int[] wrong = {LEAST, -2, -1, 4, 5, 6, GREATEST};
+        SheetFolder x = Parts.based(100, 80);
+        for (int side : wrong) {
+            due("side " + side, x.panel(0, side, 0, 1, 1, UP), NONE);
+        }
+        for (int side = 0; side < 4; side++) {
+            due("side " + side, x.panel(0, side, 0, 1, 1, UP), side + 1);
+        }
+        Due.sentence("3: NONE when the parent is itself joined by that side");
+        for (int side = 0; side < 4; side++) {
+            SheetFolder y = Parts.based(100, 80);
+            join(y, 0, side, 0, 50, 50, UP);
+            int back = (side + 2) % 4;
+            due("side " + back, y.panel(1, back, 0, 1, 1, UP), NONE);
+            due("side " + side, y.panel(1, side, 0, 1, 1, UP), 2);
+            due("beside", y.panel(1, (side + 1) % 4, 0, 1, 1, UP), 3);
+            due("beside", y.panel(1, (side + 3) % 4, 0, 1, 1, UP), 4);
+            due("one more on a side that has a bend", y.panel(1, side, 2, 1, 1, UP), 5);
+            due("one more on the parent's side", y.panel(0, side, 60, 1, 1, UP), 6);
+        }
+    }
+
+    private static void panelWithinTheSide() {
+        Due.sentence("3: NONE when it is not within the side");
         int[] length = {80, 100, 80, 100};
         for (int side = 0; side < 4; side++) {
-            SheetFolder x = new SheetFolder();
-            x.base(100, 80);
-            due("panel before its side", x.panel(0, side, -1, 10, 10, 1), NONE);
-            due("panel beyond its side", x.panel(0, side, length[side] - 9, 10, 10, 1), NONE);
-            due("panel too wide", x.panel(0, side, 0, length[side] + 1, 10, 1), NONE);
-            due("panel whose end wraps around", x.panel(0, side, GREATEST, 1, 10, 1), NONE);
-            due("panel LEAST", x.panel(0, side, LEAST, 10, 10, 1), NONE);
-            due("panel GREATEST wide", x.panel(0, side, 1, GREATEST, 10, 1), NONE);
-            due("panel as wide as its side", x.panel(0, side, 0, length[side], 10, 1), 1);
-            due("panel at the end of its side", x.panel(0, side, length[side] - 10, 10, 10, 1), 2);
+            SheetFolder x = Parts.based(100, 80);
+            int end = length[side];
+            due("begins before", x.panel(0, side, -1, 10, 10, UP), NONE);
+            due("begins far before", x.panel(0, side, LEAST, 10, 10, UP), NONE);
+            due("ends behind", x.panel(0, side, end - 9, 10, 10, UP), NONE);
+            due("begins at the end", x.panel(0, side, end, 1, 10, UP), NONE);
+            due("too wide by 1", x.panel(0, side, 0, end + 1, 10, UP), NONE);
+            due("too wide by 1, from before", x.panel(0, side, -1, end + 1, 10, UP), NONE);
+            due("wraps around", x.panel(0, side, GREATEST, 1, 10, UP), NONE);
+            due("wraps around to the beginning", x.panel(0, side, GREATEST, 2, 10, UP), NONE);
+            due("wraps around by its width", x.panel(0, side, 1, GREATEST, 10, UP), NONE);
+            due("all of the side", x.panel(0, side, 0, end, 10, UP), 1);
+            due("up to the end", x.panel(0, side, end - 10, 10, 10, UP), 2);
+            due("from the beginning", x.panel(0, side, 0, 10, 10, UP), 3);
+            due("the last place", x.panel(0, side, end - 1, 1, 10, UP), 4);
         }
-        SheetFolder x = new SheetFolder();
-        x.base(2000, 2000);
-        due("panel 2000 wide", x.panel(0, 0, 0, 2000, 10, 1), 1);
-        due("panel 2001 wide", x.panel(0, 0, 0, 2001, 10, 1), NONE);
+        Due.sentence("3: not within the side of a panel other than the base");
+        SheetFolder y = Parts.corner();
+        due("panel 1 is 50 high", y.panel(1, EAST, 0, 51, 5, UP), NONE);
+        due("panel 1 is 30 wide", y.panel(1, SOUTH, 11, 20, 5, UP), NONE);
+        due("all of its height", y.panel(1, EAST, 0, 50, 5, UP), 3);
+        due("up to the end of its width", y.panel(1, SOUTH, 10, 20, 5, UP), 4);
+        due("panel 2 is 15 high", y.panel(2, WEST, 0, 16, 5, UP), NONE);
+        due("all of panel 2's height", y.panel(2, WEST, 0, 15, 5, UP), 5);
     }
 
-    private static void deduction() {
-        SheetFolder x = new SheetFolder();
-        due("deduction(400)", x.deduction(400), 1);
-        due("deduction(0)", x.deduction(0), 1);
-        due("deduction(6)", x.deduction(6), 1);
-        due("deduction(402)", x.deduction(402), 0);
-        due("deduction(401)", x.deduction(401), 0);
-        due("deduction(5)", x.deduction(5), 0);
-        due("deduction(-2)", x.deduction(-2), 0);
-        due("deduction(LEAST)", x.deduction(LEAST), 0);
-        due("deduction(GREATEST)", x.deduction(GREATEST), 0);
-        x.base(100, 100);
-        x.panel(0, 0, 0, 10, 50, 1);
-        due("refused deductions change nothing", x.size(0), 144);
-        x.deduction(0);
-        due("deduction 0 again", x.size(0), 150);
+    private static void panelWideAndDeep() {
+        int[] wrong = {LEAST, -1, 0, 2001, 2002, GREATEST};
+        Due.sentence("3: NONE when it is not 1 .. 2000 wide");
+        SheetFolder x = Parts.based(2000, 2000);
+        for (int wide : wrong) {
+            due("wide " + wide, x.panel(0, EAST, 0, wide, 10, UP), NONE);
+            due("wide " + wide + " from 5", x.panel(0, NORTH, 5, wide, 10, UP), NONE);
+        }
+        due("wide 1", x.panel(0, EAST, 0, 1, 10, UP), 1);
+        due("wide 2000", x.panel(0, WEST, 0, 2000, 10, UP), 2);
+        Due.sentence("3: NONE when it is not 1 .. 2000 deep");
+        for (int deep : wrong) {
+            due("deep " + deep, x.panel(0, EAST, 0, 10, deep, UP), NONE);
+            due("deep " + deep, x.panel(0, SOUTH, 0, 10, deep, UP), NONE);
+        }
+        due("deep 1", x.panel(0, EAST, 0, 10, 1, UP), 3);
+        due("deep 2000", x.panel(0, SOUTH, 0, 10, 2000, UP), 4);
+        Parts.duePlace("deep 1", x, 0, 3, 2000, 0, 0, 2001, 10, 0);
+        Parts.duePlace("deep 2000", x, 0, 4, 0, -2000, 0, 10, 0, 0);
     }
 
-    private static void gauge() {
-        SheetFolder x = new SheetFolder();
-        x.base(80, 79);
-        x.panel(0, 0, 0, 10, 10, 1);
-        x.panel(0, 1, 0, 10, 10, 1);
-        due("at first 80: 79 is too short", x.edge(0, 1), NONE);
-        due("at first 80: 80 is long enough", x.edge(0, 2), 3);
-        due("gauge(79)", x.gauge(79), 1);
-        due("gauge 79", x.edge(0, 1), 2);
-        due("gauge(0)", x.gauge(0), 0);
-        due("gauge(-1)", x.gauge(-1), 0);
-        due("gauge(4001)", x.gauge(4001), 0);
-        due("gauge(LEAST)", x.gauge(LEAST), 0);
-        due("refused gauges change nothing", x.edge(0, 1), 2);
-        due("gauge(4000)", x.gauge(4000), 1);
-        due("gauge 4000", x.edge(0, 1), NONE);
-        due("gauge(1)", x.gauge(1), 1);
-        due("gauge 1", x.edge(0, 1), 2);
+    private static void panelNothingDone() {
+        Due.sentence("3: NONE, and nothing is done");
+        SheetFolder x = Parts.channel(120);
+        x.deduction(4);
+        String before = Parts.shown(x);
+        due("no parent", x.panel(3, NORTH, 0, 10, 10, UP), NONE);
+        due("no side", x.panel(0, 4, 0, 10, 10, UP), NONE);
+        due("joined by it", x.panel(1, WEST, 0, 10, 10, UP), NONE);
+        due("not within", x.panel(0, NORTH, 95, 10, 10, UP), NONE);
+        due("not deep", x.panel(0, NORTH, 0, 10, 0, UP), NONE);
+        due("neither up nor down", x.panel(0, NORTH, 0, 10, 10, 2), NONE);
+        dueSame("after them", x, before);
+        due("the next number", x.panel(0, NORTH, 0, 10, 10, UP), 3);
+    }
+
+    private static void deductionAndGauge() {
+        deductionTaken();
+        deductionRefused();
+        gaugeTaken();
+        gaugeRefused();
+    }
+
+    private static void deductionTaken() {
+        Due.sentence("4: The deduction: 1");
+        SheetFolder x = Parts.based(500, 500);
+        join(x, 0, EAST, 0, 500, 500, UP);
+        int[] right = {0, 2, 4, 398, 400};
+        for (int d : right) {
+            due("deduction(" + d + ")", x.deduction(d), 1);
+            due("size with " + d, x.size(0), 1000 - d);
+        }
+        due("deduction(0) again", x.deduction(0), 1);
+        due("size with 0", x.size(0), 1000);
+        SheetFolder y = new SheetFolder();
+        due("before a base", y.deduction(10), 1);
+        y.base(50, 50);
+        join(y, 0, EAST, 0, 50, 50, UP);
+        due("it holds for a base after it", y.size(0), 90);
+    }
+
+    private static void deductionRefused() {
+        SheetFolder x = Parts.corner();
+        x.deduction(6);
+        String before = Parts.shown(x);
+        Due.sentence("4: 0, and nothing is done, when it is not even");
+        int[] odd = {1, 3, 5, 399, -1, GREATEST};
+        for (int d : odd) {
+            due("deduction(" + d + ")", x.deduction(d), 0);
+        }
+        dueSame("odd ones", x, before);
+        Due.sentence("4: 0, and nothing is done, when it is not 0 .. 400");
+        int[] out = {-2, -400, LEAST, 402, 404, 401, GREATEST - 1};
+        for (int d : out) {
+            due("deduction(" + d + ")", x.deduction(d), 0);
+        }
+        dueSame("too small or too large", x, before);
+    }
+
+    private static void gaugeTaken() {
+        Due.sentence("5: The gauge: 1");
+        SheetFolder x = Parts.based(100, 2000);
+        join(x, 0, EAST, 0, 10, 10, UP);
+        int[] right = {1, 2, 1999, 2000, 2001, 3999, 4000};
+        for (int length : right) {
+            due("gauge(" + length + ")", x.gauge(length), 1);
+            due("edge with " + length, x.edge(0, 1), length <= 2000 ? WEST : NONE);
+            due("order with " + length, x.order(), length <= 2000 ? 1 : NONE);
+        }
+        SheetFolder y = new SheetFolder();
+        due("before a base", y.gauge(10), 1);
+        y.base(10, 10);
+        join(y, 0, EAST, 0, 10, 10, UP);
+        due("it holds for a base after it", y.edge(0, 1), WEST);
+    }
+
+    private static void gaugeRefused() {
+        Due.sentence("5: 0, and nothing is done, when it is not 1 .. 4000");
+        SheetFolder x = Parts.based(79, 79);
+        join(x, 0, EAST, 0, 10, 10, UP);
+        x.gauge(79);
+        String before = Parts.shown(x);
+        int[] wrong = {0, -1, -80, LEAST, 4001, 4002, GREATEST};
+        for (int length : wrong) {
+            due("gauge(" + length + ")", x.gauge(length), 0);
+        }
+        dueSame("after them", x, before);
+        due("the old one still", x.edge(0, 1), WEST);
     }
 
     private static void over() {
+        overPlan();
+        overSides();
+        overBends();
+        Due.sentence("6: 0 when there is no base");
         SheetFolder x = new SheetFolder();
-        due("over() without a base", x.over(), 0);
-        x = corner();
+        due("over()", x.over(), 0);
+        due("no base still", x.count(0), 0);
+        due("after a refused base", x.base(0, 0) + x.over(), 0);
+    }
+
+    private static void overPlan() {
+        Due.sentence("6: x of the plan the other way round (that of the base from 0 on again)");
+        SheetFolder x = Parts.corner();
+        join(x, 0, NORTH, 10, 20, 7, UP);
         due("over()", x.over(), 1);
-        duePlace("over", x, 0, 0, 0, 0, 0, 100, 80, 0);
-        duePlace("over", x, 0, 1, -30, 10, 0, 0, 60, 0);
-        duePlace("over", x, 0, 2, -25, 60, 0, -5, 75, 0);
-        duePlace("over: down that was up", x, 2, 1, 0, 10, -30, 0, 60, 0);
-        duePlace("over: up that was down", x, 4, 2, -25, 60, 0, -5, 60, 15);
-        due("over: the base's west is no side for panel 1's", x.panel(1, 0, 0, 10, 10, 1), NONE);
-        due("over: panel 1's west is", x.panel(1, 2, 0, 10, 10, 1), 3);
-        duePlace("over, then joined", x, 0, 3, -40, 10, 0, -30, 20, 0);
-        SheetFolder y = corner();
+        Parts.duePlace("base", x, 0, 0, 0, 0, 0, 100, 80, 0);
+        Parts.duePlace("east is west", x, 0, 1, -30, 10, 0, 0, 60, 0);
+        Parts.duePlace("further on", x, 0, 2, -25, 60, 0, -5, 75, 0);
+        Parts.duePlace("north stays north", x, 0, 3, 70, 80, 0, 90, 87, 0);
+        x.deduction(10);
+        Parts.dueFlat("flat", x, 1, 0, 10, 25, 55);
+        SheetFolder y = Parts.corner();
+        String before = Parts.shown(y);
+        due("over()", y.over(), 1);
+        due("over() again", y.over(), 1);
+        dueSame("twice over", y, before);
+        SheetFolder z = Parts.based(30, 40);
+        due("a base alone", z.over(), 1);
+        Parts.duePlace("a base alone", z, 0, 0, 0, 0, 0, 30, 40, 0);
+    }
+
+    private static void overSides() {
+        Due.sentence("6: so that east is west");
+        SheetFolder x = Parts.corner();
+        x.gauge(50);
+        due("its gauge edge is west", x.edge(0, 1), WEST);
+        x.over();
+        due("its gauge edge is east", x.edge(0, 1), EAST);
+        due("panel 1 is joined by its east", x.panel(1, EAST, 0, 10, 10, UP), NONE);
+        due("no more by its west", x.panel(1, WEST, 0, 10, 10, UP), 3);
+        Parts.duePlace("joined then", x, 0, 3, -40, 10, 0, -30, 20, 0);
+        due("panel 2 is joined by its south", x.panel(2, SOUTH, 0, 10, 10, UP), NONE);
+        due("offsets are from the new least place", x.panel(2, NORTH, 0, 5, 5, UP), 4);
+        Parts.duePlace("from the new least place", x, 0, 4, -25, 75, 0, -20, 80, 0);
+    }
+
+    private static void overBends() {
+        Due.sentence("6: and all bends are up that were down");
+        SheetFolder x = Parts.corner();
+        x.over();
+        Parts.duePlace("down that was up", x, 2, 1, 0, 10, -30, 0, 60, 0);
+        Parts.duePlace("up that was down", x, 4, 2, -25, 60, 0, -5, 60, 15);
+        join(x, 0, NORTH, 0, 10, 10, UP);
+        due("a new one is as it is told", x.place(8, 3, 5), 10);
+        SheetFolder y = Parts.channel(120);
+        due("an order", y.order() * 10 + y.step(0), 22);
         y.over();
-        due("over() twice", y.over(), 1);
-        SheetFolder z = corner();
-        for (int bits = 0; bits < 8; bits += 2) {
-            for (int i = 0; i < 18; i++) {
-                due("over twice is as before", y.place(bits, i / 6, i % 6), z.place(bits, i / 6, i % 6));
-            }
+        Parts.dueSteps("the order is the same over", y, 2, 1);
+    }
+
+    private static void flat() {
+        Due.sentence("7: NONE when there is no base");
+        due("flat()", new SheetFolder().flat(), NONE);
+        Due.sentence("7: 0");
+        Parts.dueWrong("a base alone", Parts.based(1, 1), 0, NONE, NONE);
+        Parts.dueWrong("a corner", Parts.corner(), 0, NONE, NONE);
+        flatNoWidth();
+        flatNoHeight();
+        flatFirstWithout();
+    }
+
+    private static void flatNoWidth() {
+        Due.sentence("7: 1 when a panel would have no width left");
+        int[] deduction = {18, 20, 22, 400};
+        int[] want = {0, 1, 1, 1};
+        int[] half = {NONE, 1, 1, 0};
+        int[] both = {NONE, 0, 0, 0};
+        for (int i = 0; i < 4; i++) {
+            SheetFolder x = Parts.based(100, 100);
+            join(x, 0, EAST, 0, 100, 10, UP);
+            x.deduction(deduction[i]);
+            Parts.dueWrong("a half off 10 with " + deduction[i], x, want[i], half[i], NONE);
+            SheetFolder y = Parts.based(20, 100);
+            join(y, 0, EAST, 0, 100, 300, UP);
+            join(y, 0, WEST, 0, 100, 300, UP);
+            y.deduction(deduction[i]);
+            Parts.dueWrong("both halves off 20 with " + deduction[i], y, want[i], both[i], NONE);
         }
     }
 
-    private static void overFlatAndEdges() {
-        SheetFolder x = corner();
-        x.deduction(10);
-        x.gauge(50);
-        due("before over edge", x.edge(0, 1), 2);
-        x.over();
-        dueFlat("over", x, 0, 25, 0, 120, 80);
-        dueFlat("over", x, 1, 0, 10, 25, 55);
-        dueFlat("over", x, 2, 5, 55, 25, 65);
-        due("over edge", x.edge(0, 1), 0);
-        due("over moves", x.moves(1), 1);
+    private static void flatNoHeight() {
+        Due.sentence("7: 1 when a panel would have no height left");
+        int[] deduction = {18, 20, 22};
+        int[] want = {0, 1, 1};
+        int[] half = {NONE, 1, 1};
+        int[] both = {NONE, 0, 0};
+        for (int i = 0; i < 3; i++) {
+            SheetFolder x = Parts.based(100, 100);
+            join(x, 0, SOUTH, 0, 100, 10, UP);
+            x.deduction(deduction[i]);
+            Parts.dueWrong("a half off 10 with " + deduction[i], x, want[i], half[i], NONE);
+            SheetFolder y = Parts.based(100, 20);
+            join(y, 0, NORTH, 0, 100, 300, UP);
+            join(y, 0, SOUTH, 0, 100, 300, UP);
+            y.deduction(deduction[i]);
+            Parts.dueWrong("both halves off 20 with " + deduction[i], y, want[i], both[i], NONE);
+        }
     }
 
-    private static void flatWithoutWidth() {
-        SheetFolder x = new SheetFolder();
-        due("flat() without a base", x.flat(), NONE);
-        x.base(20, 100);
-        x.panel(0, 0, 0, 100, 50, 1);
-        x.panel(0, 2, 0, 100, 50, 1);
-        x.deduction(18);
-        due("flat with 2 of the width left", x.flat(), 0);
-        due("wrong(0) of a pattern", x.wrong(0), NONE);
+    private static void flatFirstWithout() {
+        Due.sentence("7: 1: the first one");
+        SheetFolder x = Parts.based(200, 200);
+        join(x, 0, EAST, 0, 50, 60, UP);
+        join(x, 0, NORTH, 0, 50, 10, UP);
+        join(x, 0, SOUTH, 0, 50, 8, UP);
         x.deduction(20);
-        due("flat with no width left", x.flat(), 1);
-        due("wrong(0) without width", x.wrong(0), 0);
-        due("wrong(1) without width", x.wrong(1), NONE);
-        x.deduction(100);
-        due("flat with less than no width", x.flat(), 1);
-        due("wrong(0) is the first", x.wrong(0), 0);
-        x.base(200, 200);
-        x.panel(0, 0, 0, 50, 60, 1);
-        x.panel(0, 1, 0, 50, 10, 1);
-        x.panel(0, 3, 0, 50, 10, 1);
-        x.deduction(20);
-        due("flat with no height left", x.flat(), 1);
-        due("wrong(0) without height", x.wrong(0), 2);
+        Parts.dueWrong("panels 2 and 3", x, 1, 2, NONE);
+        x.deduction(16);
+        Parts.dueWrong("panel 3 alone", x, 1, 3, NONE);
+        x.deduction(120);
+        Parts.dueWrong("panels 1, 2 and 3", x, 1, 1, NONE);
+        x.deduction(200);
+        Parts.dueWrong("all", x, 1, 0, NONE);
+        Due.sentence("7: 1 comes before 2");
+        SheetFolder y = Parts.based(100, 100);
+        join(y, 0, EAST, 0, 60, 50, UP);
+        join(y, 0, EAST, 50, 50, 50, UP);
+        join(y, 0, WEST, 0, 50, 10, UP);
+        Parts.dueWrong("a pair", y, 2, 1, 2);
+        y.deduction(20);
+        Parts.dueWrong("a pair, and a later panel without width", y, 1, 3, NONE);
     }
 
-    private static void flatOverlap() {
-        SheetFolder x = new SheetFolder();
-        x.base(100, 100);
-        x.panel(0, 0, 0, 100, 50, 1);
-        x.panel(0, 1, 0, 100, 50, 1);
-        x.panel(1, 1, 0, 50, 20, 1);
-        due("flat where panels touch", x.flat(), 0);
-        x.panel(2, 0, 0, 50, 30, 1);
-        due("flat where panels overlap", x.flat(), 2);
-        due("wrong(0) of a pair", x.wrong(0), 3);
-        due("wrong(1) of a pair", x.wrong(1), 4);
-        x.panel(0, 1, 0, 10, 10, 0);
-        due("flat: the first pair", x.flat(), 2);
-        due("wrong(0) of the first pair", x.wrong(0), 2);
-        due("wrong(1) of the first pair", x.wrong(1), 5);
-        x.deduction(20);
-        due("flat: no width comes before a pair", x.flat(), 1);
-        due("wrong(0): panel 5 has no height", x.wrong(0), 5);
-        due("wrong(1): no pair", x.wrong(1), NONE);
-        x.deduction(0);
-        x.base(100, 100);
-        x.panel(0, 0, 0, 60, 50, 1);
-        x.panel(0, 0, 60, 40, 50, 1);
-        due("flat with two panels on a side", x.flat(), 0);
-        x.panel(0, 0, 59, 5, 50, 1);
-        due("flat with a pair of 1", x.flat(), 2);
-        due("wrong(0) of 1, 3", x.wrong(0), 1);
-        due("wrong(1) of 1, 3", x.wrong(1), 3);
+    private static void flatFirstPair() {
+        Due.sentence("7: 2 when two would have inner points in common");
+        for (int side = 0; side < 4; side++) {
+            SheetFolder x = Parts.based(100, 100);
+            join(x, 0, side, 0, 50, 50, UP);
+            join(x, 0, side, 50, 50, 50, UP);
+            Parts.dueWrong("side " + side + ", from 50", x, 0, NONE, NONE);
+            SheetFolder y = Parts.based(100, 100);
+            join(y, 0, side, 0, 50, 50, UP);
+            join(y, 0, side, 49, 50, 50, UP);
+            Parts.dueWrong("side " + side + ", from 49", y, 2, 1, 2);
+        }
+        Due.sentence("7: 2: in the pattern, not in the plan");
+        SheetFolder x = Parts.based(100, 100);
+        join(x, 0, EAST, 0, 100, 50, UP);
+        join(x, 0, NORTH, 0, 100, 50, UP);
+        Parts.dueWrong("a corner in common", x, 0, NONE, NONE);
+        x.deduction(2);
+        Parts.dueWrong("moved together, a corner overlaps", x, 2, 1, 2);
+        Due.sentence("7: 2: the first pair, by the lesser, then by the other one");
+        SheetFolder y = Parts.based(100, 100);
+        join(y, 0, EAST, 0, 20, 50, UP);
+        join(y, 0, NORTH, 0, 20, 50, UP);
+        join(y, 0, WEST, 0, 20, 50, UP);
+        join(y, 0, WEST, 19, 20, 50, UP);
+        Parts.dueWrong("3 and 4", y, 2, 3, 4);
+        join(y, 0, NORTH, 19, 20, 50, UP);
+        Parts.dueWrong("2 and 5 before 3 and 4", y, 2, 2, 5);
+        join(y, 0, EAST, 19, 20, 50, UP);
+        Parts.dueWrong("1 and 6 before 2 and 5", y, 2, 1, 6);
+        join(y, 0, EAST, 0, 10, 50, UP);
+        Parts.dueWrong("1 and 6 before 1 and 7", y, 2, 1, 6);
     }
 
-    private static void wrongStays() {
-        SheetFolder x = new SheetFolder();
-        x.base(100, 100);
-        x.panel(0, 0, 0, 60, 50, 1);
-        x.panel(0, 0, 50, 40, 50, 1);
-        due("wrong(0) before flat()", x.wrong(0), NONE);
-        x.flat();
+    private static void wrong() {
+        Due.sentence("8: NONE when there is none such");
+        SheetFolder x = Parts.based(100, 100);
+        join(x, 0, EAST, 0, 60, 50, UP);
+        join(x, 0, EAST, 50, 40, 50, UP);
+        due("before any flat(): 0", x.wrong(0), NONE);
+        due("before any flat(): 1", x.wrong(1), NONE);
+        due("flat()", x.flat(), 2);
+        int[] others = {LEAST, -2, -1, 2, 3, GREATEST};
+        for (int i : others) {
+            due("wrong(" + i + ")", x.wrong(i), NONE);
+        }
+        Due.sentence("8: Of the latest flat()");
         x.base(10, 10);
-        due("wrong(0) of the latest flat()", x.wrong(0), 1);
-        due("wrong(1) of the latest flat()", x.wrong(1), 2);
-        due("wrong(2)", x.wrong(2), NONE);
-        due("wrong(-1)", x.wrong(-1), NONE);
-        due("wrong(LEAST)", x.wrong(LEAST), NONE);
-        x.flat();
-        due("wrong(0) of a later flat()", x.wrong(0), NONE);
-        due("wrong(1) of a later flat()", x.wrong(1), NONE);
+        due("another part, no flat() since: 0", x.wrong(0), 1);
+        due("another part, no flat() since: 1", x.wrong(1), 2);
+        Parts.dueWrong("a later one", x, 0, NONE, NONE);
+        join(x, 0, EAST, 0, 10, 10, UP);
+        x.deduction(40);
+        due("a deduction alone: 0", x.wrong(0), NONE);
+        Parts.dueWrong("a later one", x, 1, 0, NONE);
+        Due.sentence("8: that was not NONE");
+        SheetFolder y = new SheetFolder();
+        due("flat()", y.flat(), NONE);
+        due("after NONE: 0", y.wrong(0), NONE);
+        due("after NONE: 1", y.wrong(1), NONE);
+        Due.sentence("8: the other one of the pair (1)");
+        SheetFolder z = Parts.based(100, 100);
+        join(z, 0, EAST, 0, 60, 10, UP);
+        join(z, 0, EAST, 50, 40, 10, UP);
+        Parts.dueWrong("a pair", z, 2, 1, 2);
+        z.deduction(20);
+        Parts.dueWrong("no pair any more, a panel without width", z, 1, 1, NONE);
     }
 
     private static void flatOf() {
-        SheetFolder x = corner();
-        dueFlat("no deduction", x, 2, 105, 60, 125, 75);
+        Due.sentence("9: least x (what 0), y (1), greatest x (2), y (3), the least of all being 0");
+        SheetFolder x = Parts.corner();
+        Parts.dueFlat("no deduction", x, 2, 105, 60, 125, 75);
+        join(x, 0, WEST, 0, 20, 40, UP);
+        join(x, 0, SOUTH, 0, 20, 30, UP);
+        Parts.dueFlat("from the west one", x, 3, 0, 30, 40, 50);
+        Parts.dueFlat("from the south one", x, 4, 40, 0, 60, 30);
+        Parts.dueFlat("the base", x, 0, 40, 30, 140, 110);
         x.deduction(10);
-        dueFlat("deduction 10", x, 0, 0, 0, 95, 80);
-        dueFlat("deduction 10", x, 1, 95, 10, 120, 55);
-        dueFlat("deduction 10", x, 2, 95, 55, 115, 65);
-        x.panel(0, 2, 0, 20, 40, 1);
-        x.panel(0, 3, 0, 20, 30, 1);
-        x.panel(0, 3, 30, 20, 30, 1);
-        dueFlat("west and south", x, 0, 35, 25, 125, 100);
-        dueFlat("west and south", x, 3, 0, 20, 35, 40);
-        dueFlat("west and south", x, 4, 30, 0, 50, 25);
-        dueFlat("half once a side, however many bends", x, 5, 60, 0, 80, 25);
-        due("flatOf no panel", x.flatOf(6, 0), NOWHERE);
-        due("flatOf(-1, 0)", x.flatOf(-1, 0), NOWHERE);
-        due("flatOf(0, 4)", x.flatOf(0, 4), NOWHERE);
-        due("flatOf(0, -1)", x.flatOf(0, -1), NOWHERE);
-        due("flatOf(GREATEST, LEAST)", x.flatOf(GREATEST, LEAST), NOWHERE);
-        due("flatOf without a base", new SheetFolder().flatOf(0, 0), NOWHERE);
-        x.base(7, 9);
-        dueFlat("base alone", x, 0, 0, 0, 7, 9);
+        Parts.dueFlat("with a deduction", x, 3, 0, 20, 35, 40);
+        Parts.dueFlat("with a deduction", x, 0, 35, 25, 125, 100);
+        flatOfNoPattern();
+        Due.sentence("9: NOWHERE when there is none such");
+        int[] others = {LEAST, -1, 5, 6, 13, GREATEST};
+        for (int p : others) {
+            due("flatOf(" + p + ", 0)", x.flatOf(p, 0), NOWHERE);
+        }
+        int[] whats = {LEAST, -1, 4, 5, GREATEST};
+        for (int what : whats) {
+            due("flatOf(0, " + what + ")", x.flatOf(0, what), NOWHERE);
+            due("flatOf(4, " + what + ")", x.flatOf(4, what), NOWHERE);
+        }
+        for (int what = 0; what < 4; what++) {
+            due("without a base", new SheetFolder().flatOf(0, what), NOWHERE);
+        }
     }
 
-    /** The sides' own places are told where a panel has less than nothing left: its least x is that of its west. */
-    private static void flatOfInsideOut() {
-        SheetFolder x = new SheetFolder();
-        x.base(100, 100);
-        x.panel(0, 0, 0, 100, 60, 1);
-        x.panel(1, 0, 0, 100, 50, 1);
-        x.deduction(80);
-        due("inside out flat()", x.flat(), 1);
-        due("inside out wrong(0)", x.wrong(0), 1);
-        dueFlat("inside out", x, 0, 0, 0, 60, 100);
-        dueFlat("inside out", x, 1, 60, 0, 40, 100);
-        dueFlat("inside out", x, 2, 40, 0, 50, 100);
-        due("inside out size(0)", x.size(0), 60);
+    private static void flatOfNoPattern() {
+        Due.sentence("9: A panel's place in the flat pattern (even if it is none)");
+        SheetFolder x = Parts.based(100, 100);
+        join(x, 0, EAST, 0, 60, 50, UP);
+        join(x, 0, EAST, 50, 40, 50, UP);
+        Parts.dueWrong("a pair", x, 2, 1, 2);
+        Parts.dueFlat("a pair", x, 2, 100, 50, 150, 90);
+        SheetFolder y = Parts.based(100, 100);
+        join(y, 0, EAST, 0, 100, 40, UP);
+        y.deduction(80);
+        Parts.dueWrong("no width", y, 1, 1, NONE);
+        Parts.dueFlat("no width", y, 1, 60, 0, 60, 100);
+        // With less than no width its west side is east of its east side.
+        SheetFolder z = Parts.based(100, 100);
+        join(z, 0, EAST, 0, 100, 60, UP);
+        join(z, 1, EAST, 0, 100, 50, UP);
+        z.deduction(80);
+        Parts.dueWrong("less than no width", z, 1, 1, NONE);
+        Parts.dueFlat("less than no width", z, 0, 0, 0, 60, 100);
+        Parts.dueFlat("less than no width", z, 1, 60, 0, 40, 100);
+        Parts.dueFlat("less than no width", z, 2, 40, 0, 50, 100);
+        due("less than no width: size", z.size(0), 60);
     }
 
     private static void size() {
-        SheetFolder x = corner();
-        due("size(0)", x.size(0), 130);
-        due("size(1)", x.size(1), 80);
-        x.deduction(10);
-        due("size(0) less the deduction", x.size(0), 120);
-        x.panel(0, 3, 0, 20, 30, 1);
-        due("size(1) with a panel south", x.size(1), 100);
-        due("size(2)", x.size(2), NOWHERE);
-        due("size(-1)", x.size(-1), NOWHERE);
-        due("size(GREATEST)", x.size(GREATEST), NOWHERE);
-        due("size without a base", new SheetFolder().size(0), NOWHERE);
+        Due.sentence("10: The greatest x (what 0) and y (1) of all in the flat pattern");
+        SheetFolder x = Parts.based(100, 80);
+        due("a base alone: 0", x.size(0), 100);
+        due("a base alone: 1", x.size(1), 80);
+        join(x, 0, WEST, 0, 10, 30, UP);
+        due("to the west: 0", x.size(0), 130);
+        due("to the west: 1", x.size(1), 80);
+        join(x, 0, SOUTH, 0, 10, 25, UP);
+        due("to the south: 1", x.size(1), 105);
+        join(x, 0, NORTH, 0, 10, 5, UP);
+        due("to the north: 1", x.size(1), 110);
+        x.deduction(4);
+        due("with a deduction: 0", x.size(0), 126);
+        due("with a deduction: 1", x.size(1), 102);
+        Due.sentence("10: NOWHERE when there is none such");
+        int[] others = {LEAST, -1, 2, 3, GREATEST};
+        for (int what : others) {
+            due("size(" + what + ")", x.size(what), NOWHERE);
+        }
+        due("without a base: 0", new SheetFolder().size(0), NOWHERE);
+        due("without a base: 1", new SheetFolder().size(1), NOWHERE);
     }
 
     private static void place() {
-        SheetFolder x = corner();
-        x.deduction(20);
-        duePlace("no bend", x, 0, 1, 100, 10, 0, 130, 60, 0);
-        duePlace("no bend", x, 0, 2, 105, 60, 0, 125, 75, 0);
-        duePlace("bend 1", x, 2, 0, 0, 0, 0, 100, 80, 0);
-        duePlace("bend 1", x, 2, 1, 100, 10, 0, 100, 60, 30);
-        duePlace("bend 1", x, 2, 2, 100, 60, 5, 100, 75, 25);
-        duePlace("bend 2", x, 4, 1, 100, 10, 0, 130, 60, 0);
-        duePlace("bend 2", x, 4, 2, 105, 60, -15, 125, 60, 0);
-        duePlace("both", x, 6, 2, 100, 60, 5, 115, 60, 25);
-    }
-
-    private static void placeOnEachSide() {
-        SheetFolder x = new SheetFolder();
-        x.base(100, 80);
-        for (int side = 0; side < 4; side++) {
-            x.panel(0, side, 10, 20, 30, 1);
+        Due.sentence("11: least x, y, z (what 0 to 2), greatest (3 to 5)");
+        SheetFolder x = Parts.corner();
+        Parts.duePlace("all folded", x, 6, 2, 100, 60, 5, 115, 60, 25);
+        Parts.duePlace("all folded", x, 6, 1, 100, 10, 0, 100, 60, 30);
+        Due.sentence("11: NOWHERE when there is none such");
+        int[] panels = {LEAST, -1, 3, 13, GREATEST};
+        for (int p : panels) {
+            due("panel " + p, x.place(0, p, 0), NOWHERE);
         }
-        for (int side = 0; side < 4; side++) {
-            x.panel(side + 1, side, 5, 10, 7, side % 2);
+        int[] whats = {LEAST, -1, 6, 7, GREATEST};
+        for (int what : whats) {
+            due("what " + what, x.place(0, 0, what), NOWHERE);
         }
-        duePlace("east", x, 30, 1, 100, 10, 0, 100, 30, 30);
-        duePlace("north", x, 30, 2, 10, 80, 0, 30, 80, 30);
-        duePlace("west", x, 30, 3, 0, 10, 0, 0, 30, 30);
-        duePlace("south", x, 30, 4, 10, 0, 0, 30, 0, 30);
-        duePlace("east, east down", x, 62, 5, 100, 15, 30, 107, 25, 30);
-        duePlace("north, north up", x, 94, 6, 15, 73, 30, 25, 80, 30);
-        duePlace("west, west down", x, 158, 7, -7, 15, 30, 0, 25, 30);
-        duePlace("south, south up", x, 286, 8, 15, 0, 30, 25, 7, 30);
-        duePlace("east goes on", x, 30, 5, 100, 15, 30, 100, 25, 37);
-    }
-
-    private static void placeWrong() {
-        SheetFolder x = corner();
-        due("place no panel", x.place(0, 3, 0), NOWHERE);
-        due("place panel -1", x.place(0, -1, 0), NOWHERE);
-        due("place what 6", x.place(0, 0, 6), NOWHERE);
-        due("place what -1", x.place(0, 0, -1), NOWHERE);
-        due("place bit 0", x.place(1, 0, 0), NOWHERE);
-        due("place bit 3", x.place(8, 0, 0), NOWHERE);
-        due("place bit 31", x.place(LEAST, 0, 0), NOWHERE);
-        due("place all bits", x.place(-1, 0, 0), NOWHERE);
-        due("place without a base", new SheetFolder().place(0, 0, 0), NOWHERE);
+        due("without a base", new SheetFolder().place(0, 0, 0), NOWHERE);
+        Due.sentence("11: NOWHERE for another bit than those of bends");
+        int[] bits = {1, 3, 7, 8, 8 + 2, 16, 1 << 13, 1 << 30, LEAST, LEAST + 2, -1, -2, GREATEST};
+        for (int wrong : bits) {
+            due("bits " + wrong, x.place(wrong, 0, 0), NOWHERE);
+            due("bits " + wrong, x.place(wrong, 2, 5), NOWHERE);
+        }
+        SheetFolder y = Parts.flanges(12);
+        due("bits 8190", y.place(8190, 12, 5), 100);
+        due("bits 8192", y.place(8192, 12, 5), NOWHERE);
+        due("bits 8191", y.place(8191, 12, 5), NOWHERE);
     }
 
     private static void meets() {
-        SheetFolder x = new SheetFolder();
-        due("meets without a base", x.meets(0), NONE);
-        x.base(100, 100);
-        due("meets alone", x.meets(0), 0);
-        x.panel(0, 0, 0, 100, 50, 1);
-        x.panel(1, 1, 0, 50, 100, 1);
-        x.panel(2, 2, 0, 100, 100, 1);
-        x.panel(3, 3, 0, 50, 20, 1);
-        due("meets: 4 on the base", x.meets(0), 1);
-        due("meets: 4 stands on the base's edge", x.meets(16), 0);
-        due("meets bit 0", x.meets(1), NONE);
-        due("meets bit 5", x.meets(32), NONE);
-        due("meets bits -1", x.meets(-1), NONE);
-        due("meets LEAST", x.meets(LEAST), NONE);
-    }
-
-    private static void meetsAtAnEdge() {
-        int[] deep = {99, 100, 101};
-        int[] want = {0, 0, 1};
-        for (int i = 0; i < 3; i++) {
-            SheetFolder x = new SheetFolder();
-            x.base(100, 100);
-            x.panel(0, 0, 0, 100, 60, 1);
-            x.panel(1, 0, 0, 100, deep[i], 1);
-            x.panel(0, 2, 20, 50, 60, 1);
-            due("meets with an edge inside a panel, deep " + deep[i], x.meets(14), want[i]);
-            x.panel(3, 2, 0, 50, 30, 1);
-            due("meets in one plane, deep " + deep[i], x.meets(30), want[i] + 1);
+        Due.sentence("12: How many pairs of panels that are not joined meet");
+        SheetFolder x = Parts.based(100, 100);
+        due("a base alone", x.meets(0), 0);
+        join(x, 0, EAST, 0, 100, 50, UP);
+        due("joined ones", x.meets(0) + x.meets(2), 0);
+        join(x, 1, NORTH, 0, 50, 100, UP);
+        join(x, 2, WEST, 0, 100, 100, UP);
+        join(x, 3, SOUTH, 0, 50, 20, UP);
+        due("4 on the base", x.meets(0), 1);
+        due("4 stands on the base's edge", x.meets(16), 0);
+        join(x, 3, SOUTH, 30, 50, 20, UP);
+        due("4, 5 and the base", x.meets(0), 3);
+        Due.sentence("12: NONE when there is no base");
+        due("meets(0)", new SheetFolder().meets(0), NONE);
+        Due.sentence("12: NONE for another bit");
+        int[] bits = {1, 3, 63, 64, 64 + 2, 1 << 30, LEAST, LEAST + 2, -1, -2, GREATEST};
+        for (int wrong : bits) {
+            due("meets(" + wrong + ")", x.meets(wrong), NONE);
         }
-        SheetFolder x = new SheetFolder();
-        x.base(100, 100);
-        x.panel(0, 0, 0, 60, 50, 1);
-        x.panel(0, 0, 40, 60, 50, 1);
-        due("meets: both stand", x.meets(6), 1);
-        due("meets: both lie", x.meets(0), 1);
-        due("meets: one stands on a common edge", x.meets(2), 0);
     }
 
     private static void moves() {
-        SheetFolder x = new SheetFolder();
-        x.base(100, 100);
-        due("moves of the base", x.moves(0), NONE);
-        due("moves of no bend", x.moves(1), NONE);
-        x.panel(0, 0, 0, 100, 50, 1);
-        due("moves: as many", x.moves(1), 2);
-        x.panel(1, 0, 0, 100, 50, 1);
-        x.panel(2, 1, 0, 10, 50, 1);
-        due("moves: the base is less", x.moves(1), 1);
-        due("moves: two and two", x.moves(2), 12);
-        due("moves: the last", x.moves(3), 8);
-        x.panel(0, 1, 0, 10, 50, 1);
-        due("moves: two others are less", x.moves(1), 17);
-        due("moves: two of five", x.moves(2), 12);
-        due("moves: another branch", x.moves(4), 16);
-        due("moves(-1)", x.moves(-1), NONE);
-        due("moves(5)", x.moves(5), NONE);
-        due("moves(GREATEST)", x.moves(GREATEST), NONE);
-    }
-
-    private static void clearByBands() {
-        due("clear: 40 deep goes by the base", channel(40).clear(2, 2), 1);
-        due("clear: 50 deep just touches it", channel(50).clear(2, 2), 1);
-        due("clear: 51 deep sweeps through it", channel(51).clear(2, 2), 0);
-        due("clear: flat the same is free", channel(51).clear(0, 2), 1);
-        SheetFolder x = new SheetFolder();
-        x.base(100, 100);
-        x.panel(0, 0, 0, 100, 50, 1);
-        x.panel(1, 0, 0, 100, 80, 0);
-        due("clear: down, away from the base", x.clear(2, 2), 1);
-    }
-
-    private static void clearByPlacesAlong() {
-        int[] offset = {49, 50};
-        int[] want = {0, 1};
-        for (int i = 0; i < 2; i++) {
-            SheetFolder x = new SheetFolder();
-            x.base(100, 100);
-            x.panel(0, 0, 0, 50, 30, 1);
-            x.panel(0, 0, offset[i], 50, 30, 1);
-            due("clear: side by side from " + offset[i], x.clear(0, 1), want[i]);
+        Due.sentence("13: The panels that move with a bend, by bits");
+        SheetFolder x = Parts.channel(40);
+        due("moves(1)", x.moves(1), 1);
+        due("moves(2)", x.moves(2), 4);
+        due("the greatest bend", Parts.flanges(12).moves(12), 4096);
+        Due.sentence("13: NONE when there is no such bend");
+        int[] others = {LEAST, -1, 0, 3, 13, 32, 33, GREATEST};
+        for (int bend : others) {
+            due("moves(" + bend + ")", x.moves(bend), NONE);
         }
-        int[] deep = {99, 100, 101};
-        int[] wantSingle = {1, 1, 0};
-        for (int i = 0; i < 3; i++) {
-            SheetFolder x = new SheetFolder();
-            x.base(100, 100);
-            x.panel(0, 0, 0, 100, 60, 1);
-            x.panel(1, 1, 0, 60, deep[i], 1);
-            x.panel(0, 1, 0, 100, 100, 1);
-            x.panel(3, 1, 0, 100, 70, 1);
-            due("clear: a single place in a range, deep " + deep[i], x.clear(16, 1), wantSingle[i]);
-            due("clear: twice the same single place", x.clear(12, 1), 0);
-            due("clear: two other single places", x.clear(20, 1), 1);
+        due("a base alone", Parts.based(5, 5).moves(1), NONE);
+        due("without a base: 0", new SheetFolder().moves(0), NONE);
+        due("without a base: 1", new SheetFolder().moves(1), NONE);
+    }
+
+    private static void clear() {
+        Due.sentence("14: Whether a bend's turn is clear with some others folded: 1, 0");
+        due("1", Parts.channel(51).clear(0, 2), 1);
+        due("0", Parts.channel(51).clear(2, 2), 0);
+        SheetFolder x = Parts.channel(40);
+        Due.sentence("14: NONE when there is no such bend");
+        for (int bend : new int[] {LEAST, -1, 0, 3, 13, 32, 33, 34, GREATEST}) {
+            due("clear(0, " + bend + ")", x.clear(0, bend), NONE);
         }
-    }
-
-    /** The chain's end is the greater part, so that the base turns against it. */
-    private static void clearOfTheOtherSide() {
-        SheetFolder x = new SheetFolder();
-        x.base(100, 100);
-        x.panel(0, 0, 0, 100, 50, 1);
-        x.panel(1, 0, 0, 100, 30, 1);
-        x.panel(2, 0, 0, 100, 70, 1);
-        due("the base moves", x.moves(1), 1);
-        due("clear: the base turns, all flat", x.clear(0, 1), 1);
-        due("clear: the base turns into quadrant 1", x.clear(12, 1), 0);
-        due("clear: panel 2 only in quadrant 0", x.clear(4, 1), 1);
-        SheetFolder y = new SheetFolder();
-        y.base(100, 100);
-        y.panel(0, 0, 0, 100, 50, 0);
-        y.panel(1, 0, 0, 100, 30, 1);
-        y.panel(2, 0, 0, 100, 40, 1);
-        due("clear: the base turns away from what is in quadrant 3", y.clear(12, 1), 1);
-        y.base(100, 100);
-        y.panel(0, 0, 0, 100, 50, 0);
-        y.panel(1, 0, 0, 100, 30, 1);
-        y.panel(2, 0, 0, 100, 70, 1);
-        due("clear: what is in the base's own quadrant is hit", y.clear(12, 1), 0);
-    }
-
-    private static void clearWrong() {
-        SheetFolder x = channel(40);
-        due("clear its own bit", x.clear(4, 2), NONE);
-        due("clear bit 0", x.clear(1, 2), NONE);
-        due("clear bit 3", x.clear(8, 2), NONE);
-        due("clear bits -1", x.clear(-1, 2), NONE);
-        due("clear LEAST", x.clear(LEAST, 2), NONE);
-        due("clear bend 0", x.clear(0, 0), NONE);
-        due("clear bend 3", x.clear(0, 3), NONE);
-        due("clear bend -1", x.clear(0, -1), NONE);
-        due("clear bend 33", x.clear(0, 33), NONE);
-        due("edge its own bit", x.edge(4, 2), NONE);
-        due("edge bit 0", x.edge(1, 2), NONE);
-        due("edge bit 3", x.edge(8, 2), NONE);
-        due("edge bend 0", x.edge(0, 0), NONE);
-        due("edge bend 3", x.edge(0, 3), NONE);
-        due("edge bend 34", x.edge(0, 34), NONE);
-        due("clear without a base", new SheetFolder().clear(0, 1), NONE);
-        due("edge without a base", new SheetFolder().edge(0, 1), NONE);
+        due("without a base", new SheetFolder().clear(0, 1), NONE);
+        Due.sentence("14: NONE for another bit");
+        for (int bits : new int[] {1, 3, 8, 8 + 2, 1 << 30, LEAST, LEAST + 2, -8, GREATEST - 4}) {
+            due("clear(" + bits + ", 2)", x.clear(bits, 2), NONE);
+        }
+        Due.sentence("14: NONE for its own bit");
+        due("its own", x.clear(4, 2), NONE);
+        due("its own and another", x.clear(6, 2), NONE);
+        due("its own", x.clear(2, 1), NONE);
+        due("another one's", x.clear(2, 2), 1);
+        due("another one's", x.clear(4, 1), 1);
     }
 
     private static void edge() {
-        SheetFolder x = new SheetFolder();
-        x.base(100, 90);
-        x.panel(0, 0, 0, 90, 85, 1);
-        due("edge of the base, west", x.edge(0, 1), 2);
-        x.panel(0, 2, 0, 10, 10, 1);
-        due("a side with a bend is not free", x.edge(0, 1), 4);
-        x.panel(1, 0, 0, 90, 20, 1);
-        due("nor the child's side to its parent", x.edge(0, 1), 12);
-        due("edge across, of the base", x.edge(0, 2), 12);
-        x.panel(0, 1, 0, 10, 10, 1);
-        x.panel(0, 3, 0, 10, 10, 1);
-        due("edge along x, of panel 1, 85 long", x.edge(0, 4), 5);
-        due("edge along x, panel 1 stands", x.edge(2, 4), NONE);
-        x.gauge(86);
-        due("85 is too short", x.edge(0, 4), NONE);
-        x.gauge(85);
-        due("85 is enough", x.edge(0, 4), 5);
-        x.gauge(10);
-        due("edge of the least panel", x.edge(2, 4), 9);
-        due("edge of the least panel along y", x.edge(2, 3), 10);
-        x.panel(1, 1, 0, 10, 10, 1);
-        due("edge along z", x.edge(2, 6), 7);
-    }
-
-    private static void orderOtherThanNumbers() {
-        SheetFolder x = channel(120);
-        dueSteps("channel 120", x, 2, 1);
-        due("channel 120 count(1)", x.count(1), 3);
-        SheetFolder y = channel(50);
-        due("step before order()", y.step(0), 1);
-        dueSteps("channel 50", y, 1, 2);
-        due("channel 50 count(1)", y.count(1), 4);
-        SheetFolder z = new SheetFolder();
-        due("order without a base", z.order(), NONE);
-        due("step without a base", z.step(0), NONE);
-        z.base(1, 1);
-        dueSteps("base alone", z);
-        due("base alone count(1)", z.count(1), 1);
-        due("step(LEAST)", y.step(LEAST), NONE);
-        due("step(GREATEST)", y.step(GREATEST), NONE);
-    }
-
-    private static void orderChangesWithThePart() {
-        SheetFolder x = channel(120);
-        due("first order", x.step(0), 2);
-        x.over();
-        dueSteps("over", x, 2, 1);
-        x.panel(0, 1, 0, 100, 10, 1);
-        due("one more bend", x.order(), 3);
-        due("one more bend step(0)", x.step(0), 2);
+        Due.sentence("15: The gauge edge for it: 4 times the panel and the side");
+        SheetFolder x = Parts.channel(40);
+        due("of the base", x.edge(0, 1), WEST);
+        due("of the base, with bend 1 folded", x.edge(2, 2), WEST);
+        join(x, 0, WEST, 0, 10, 10, UP);
+        due("of panel 2", x.edge(0, 1), 8 + EAST);
+        due("of the greatest panel", lastOfThirteen().edge(0, 11), 48 + NORTH);
+        Due.sentence("15: NONE when there is none");
         x.gauge(101);
-        due("a longer gauge", x.order(), NONE);
-        due("a longer gauge step(0)", x.step(0), NONE);
+        due("too long a gauge", x.edge(0, 1), NONE);
         x.gauge(100);
-        due("gauge 100", x.order(), 3);
-        x.base(100, 100);
-        dueSteps("a new base", x);
-        due("a new base count(1)", x.count(1), 1);
-        x.panel(0, 0, 0, 100, 10, 1);
-        dueSteps("a new panel", x, 1);
+        due("just long enough", x.edge(0, 1), 8 + EAST);
+        Due.sentence("15: NONE as above: no such bend");
+        for (int bend : new int[] {LEAST, -1, 0, 4, 13, 32, 33, 34, GREATEST}) {
+            due("edge(0, " + bend + ")", x.edge(0, bend), NONE);
+        }
+        due("without a base", new SheetFolder().edge(0, 1), NONE);
+        Due.sentence("15: NONE as above: another bit");
+        for (int bits : new int[] {1, 3, 16, 16 + 2, 1 << 30, LEAST, LEAST + 2, -16, GREATEST - 4}) {
+            due("edge(" + bits + ", 2)", x.edge(bits, 2), NONE);
+        }
+        Due.sentence("15: NONE as above: its own bit");
+        due("its own", x.edge(4, 2), NONE);
+        due("its own and another", x.edge(6, 2), NONE);
+        due("another one's", x.edge(2, 2), 8 + EAST);
     }
 
-    private static void noOrder() {
-        SheetFolder x = channel(40);
+    /** Panel 12 alone is long enough along x, and panel 11 is joined along x. */
+    private static SheetFolder lastOfThirteen() {
+        SheetFolder x = Parts.based(10, 10);
+        for (int p = 0; p < 10; p++) {
+            join(x, p, EAST, 0, 10, 10, UP);
+        }
+        join(x, 0, NORTH, 0, 10, 10, UP);
+        join(x, 10, EAST, 0, 10, 80, UP);
+        return x;
+    }
+
+    private static void order() {
+        Due.sentence("16: How many bends the order has");
+        due("a base alone", Parts.based(1, 1).order(), 0);
+        due("two", Parts.channel(40).order(), 2);
+        due("twelve", Parts.flanges(12).order(), 12);
+        Due.sentence("16: NONE when there is no order");
+        SheetFolder x = Parts.channel(40);
         x.gauge(101);
-        due("no gauge edge: order", x.order(), NONE);
-        due("no gauge edge: step", x.step(0), NONE);
-        due("no gauge edge: the full set alone", x.count(1), 1);
-        SheetFolder y = new SheetFolder();
-        y.base(100, 100);
-        y.panel(0, 0, 0, 60, 50, 1);
-        y.panel(0, 0, 40, 60, 50, 1);
-        due("not clear: first", y.clear(0, 1), 0);
-        due("not clear: order", y.order(), NONE);
-        due("not clear: count(1)", y.count(1), 1);
-        y.base(100, 100);
-        dueSteps("a new base after no order", y);
-        due("a new base after no order: count(1)", y.count(1), 1);
+        due("no gauge edge", x.order(), NONE);
+        SheetFolder y = Parts.based(100, 100);
+        join(y, 0, EAST, 0, 60, 50, UP);
+        join(y, 0, EAST, 40, 60, 50, UP);
+        due("not clear", y.order(), NONE);
+        Due.sentence("16: NONE when there is no base");
+        due("order()", new SheetFolder().order(), NONE);
+        Due.sentence("16: of the part as it is now");
+        SheetFolder z = Parts.channel(120);
+        Parts.dueSteps("at first", z, 2, 1);
+        join(z, 0, NORTH, 0, 100, 10, UP);
+        Parts.dueSteps("one more panel", z, 2, 1, 3);
+        z.gauge(101);
+        Parts.dueNoOrder("a longer gauge", z);
+        z.gauge(100);
+        Parts.dueSteps("a shorter gauge", z, 2, 1, 3);
+        z.over();
+        Parts.dueSteps("over", z, 2, 1, 3);
+        z.base(100, 100);
+        Parts.dueSteps("a new base", z);
+        join(z, 0, EAST, 0, 100, 10, UP);
+        Parts.dueSteps("a new panel", z, 1);
     }
 
-    private static void greatestPart() {
-        SheetFolder x = new SheetFolder();
-        x.base(1000, 1000);
-        for (int k = 0; k < 12; k++) {
-            x.panel(0, k % 4, k / 4 * 300, 200, 100, 1);
+    private static void step() {
+        Due.sentence("17: Bend i of the order");
+        Parts.dueSteps("channel", Parts.channel(120), 2, 1);
+        Parts.dueSteps("twelve", Parts.flanges(12), 1, 2, 3, 4, 5, 6, 7, 8, 9, 10, 11, 12);
+        SheetFolder x = Parts.channel(120);
+        due("without order() before: 1", x.step(1), 1);
+        due("without order() before: 0", x.step(0), 2);
+        Due.sentence("17: NONE when there is none such");
+        for (int i : new int[] {LEAST, -1, 2, 3, 12, 13, GREATEST}) {
+            due("step(" + i + ")", x.step(i), NONE);
         }
-        dueSteps("12 flanges", x, 1, 2, 3, 4, 5, 6, 7, 8, 9, 10, 11, 12);
-        due("12 flanges count(1)", x.count(1), 4096);
-        due("12 flanges count(0)", x.count(0), 13);
-        due("12 flanges all folded", x.meets(8190), 0);
-        due("12 flanges bit 13", x.meets(8192), NONE);
-        due("12 flanges flat", x.flat(), 0);
-        due("12 flanges check()", x.check(), 1);
-        due("12 flanges over()", x.over(), 1);
-        dueSteps("12 flanges over", x, 1, 2, 3, 4, 5, 6, 7, 8, 9, 10, 11, 12);
-        x.gauge(1001);
-        due("12 flanges edge", x.edge(0, 12), NONE);
-        x.gauge(80);
-        x.base(2000, 2000);
-        for (int k = 0; k < 12; k++) {
-            x.panel(k, 0, 0, 2000, 2000, 1);
-        }
-        duePlace("a long chain", x, 0, 12, 24000, 0, 0, 26000, 2000, 0);
-        due("a long chain clear", x.clear(0, 1), 1);
-        due("a long chain moves", x.moves(7), 8064);
-        due("a long chain rolled up", x.place(8190, 12, 3), 2000);
-        x.deduction(400);
-        due("a long chain flat", x.size(0), 26000 - 12 * 400);
+        due("twelve: step(12)", Parts.flanges(12).step(12), NONE);
+        due("a base alone", Parts.based(1, 1).step(0), NONE);
+        due("without a base", new SheetFolder().step(0), NONE);
+        x.gauge(101);
+        Parts.dueNoOrder("no order", x);
     }
 
-    private static void countWrong() {
-        SheetFolder x = channel(40);
-        due("count(0)", x.count(0), 3);
-        due("count(2)", x.count(2), NONE);
-        due("count(-1)", x.count(-1), NONE);
-        due("count(LEAST)", x.count(LEAST), NONE);
-        due("count(2) without a base", new SheetFolder().count(2), NONE);
+    private static void count() {
+        Due.sentence("18: How many panels (what 0)");
+        due("none", new SheetFolder().count(0), 0);
+        due("a base", Parts.based(1, 1).count(0), 1);
+        due("three", Parts.channel(40).count(0), 3);
+        due("thirteen", Parts.flanges(12).count(0), 13);
+        Due.sentence("18: from how many sets of folded bends an order goes on to all (1)");
+        due("all of four", Parts.channel(50).count(1), 4);
+        due("three of four", Parts.channel(51).count(1), 3);
+        due("all of 4096", Parts.flanges(12).count(1), 4096);
+        SheetFolder x = Parts.based(100, 100);
+        join(x, 0, EAST, 0, 60, 50, UP);
+        join(x, 0, EAST, 40, 60, 50, UP);
+        join(x, 0, WEST, 0, 100, 10, UP);
+        due("there is no order", x.order(), NONE);
+        due("but one goes on from 1 and 2 folded, though nothing leads there", x.count(1), 2);
+        Due.sentence("18: the last ones included");
+        due("a base alone", Parts.based(1, 1).count(1), 1);
+        SheetFolder y = Parts.channel(40);
+        y.gauge(101);
+        due("from all folded alone", y.count(1), 1);
+        Due.sentence("18: 0 without a base");
+        due("count(1)", new SheetFolder().count(1), 0);
+        Due.sentence("18: NONE for others");
+        for (int what : new int[] {LEAST, -1, 2, 3, GREATEST}) {
+            due("count(" + what + ")", y.count(what), NONE);
+            due("count(" + what + ") without a base", new SheetFolder().count(what), NONE);
+        }
     }
 
     private static void check() {
-        SheetFolder x = corner();
+        Due.sentence("19: Whether all panels are as large as in the plan, and each bend lies on both its sides: 1");
+        due("no panels", new SheetFolder().check(), 1);
+        due("a base", Parts.based(1, 1).check(), 1);
+        due("twelve", Parts.flanges(12).check(), 1);
+        SheetFolder x = Parts.corner();
         due("check()", x.check(), 1);
         x.over();
-        due("check() over", x.check(), 1);
+        due("over", x.check(), 1);
         x.deduction(400);
-        due("check() without a flat pattern", x.check(), 1);
+        due("without a flat pattern", x.check(), 1);
+        SheetFolder y = Parts.based(100, 100);
+        join(y, 0, EAST, 0, 60, 50, DOWN);
+        join(y, 0, EAST, 40, 60, 50, DOWN);
+        due("panels that meet", y.check(), 1);
     }
 }
