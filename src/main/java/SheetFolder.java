@@ -418,7 +418,7 @@ public final class SheetFolder {
     /** The flat pattern. */
     private static final class Pattern {
         private int panels = 0;
-        /** By side and panel, as in the plan; a panel with nothing left may have its west side east of its east side. */
+        /** By side and panel, as in the plan; where less than nothing is left of a panel, west lies east of east. */
         private final int[][] limit = new int[SIDES][MOST_PANELS];
         private final int[] shiftX = new int[MOST_PANELS];
         private final int[] shiftY = new int[MOST_PANELS];

@@ -15,6 +15,18 @@ final class Due {
         askedBefore = asked;
     }
 
+    /** One test after the other: what one of them throws is told as wrong, and does not keep the next from running. */
+    static void run(Runnable... tests) {
+        for (Runnable test : tests) {
+            try {
+                test.run();
+            } catch (RuntimeException e) {
+                asked++;
+                tell("threw " + e);
+            }
+        }
+    }
+
     private static void endSentence() {
         if (!sentence.isEmpty() && asked == askedBefore) {
             tell("nothing was asked for");

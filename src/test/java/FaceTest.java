@@ -19,8 +19,8 @@ public final class FaceTest {
         "\\bimport\\s+(?!java\\.util\\.(ArrayList|List|Arrays|Iterator|NoSuchElementException);)", "\\bpackage\\b",
         "\\bfinally\\b", "::", "Exact\\b", "\\bsynchronized\\b", "\\bassert\\b", "\\bSystem\\.(?!arraycopy)",
         "\\bThread\\b", "\\bRandom\\b", "\\bprotected\\b", "\\bstatic\\s*\\{",
-        "\\bcatch\\s*\\([^)]*\\b(ArrayIndexOutOfBounds|NullPointer|ClassCast|NegativeArraySize|ArrayStore)?Exception\\b",
-        "\\bThrowable\\b", "\\bError\\b"};
+        "\\bcatch\\s*\\([^)]*\\bException\\b", "\\bThrowable\\b", "\\bError\\b",
+        "\\b(ArrayIndexOutOfBounds|NullPointer|ClassCast|NegativeArraySize|ArrayStore)Exception\\b"};
     private static final int MOST_FIELDS = 20;
     private static final int MOST_PARAMETERS = 7;
     private static final int MOST_CLASSES = 12;
@@ -30,7 +30,8 @@ public final class FaceTest {
 
     public static void main(String[] args) throws IOException {
         Class<?> face = SheetFolder.class;
-        Due.dueTrue("public and final", Modifier.isPublic(face.getModifiers()) && Modifier.isFinal(face.getModifiers()));
+        int modifiers = face.getModifiers();
+        Due.dueTrue("public and final", Modifier.isPublic(modifiers) && Modifier.isFinal(modifiers));
         Set<String> names = lookAtMethods(face);
         lookAtConstants(face);
         Constructor<?>[] made = face.getDeclaredConstructors();

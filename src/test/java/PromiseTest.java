@@ -18,26 +18,11 @@ public final class PromiseTest {
     }
 
     public static void main(String[] args) {
-        newObject();
-        base();
-        panel();
-        panelRefused();
-        deductionAndGauge();
-        over();
-        flat();
-        flatFirstPair();
-        wrong();
-        flatOf();
-        size();
-        place();
-        meets();
-        moves();
-        clear();
-        edge();
-        order();
-        step();
-        count();
-        check();
+        Due.run(PromiseTest::manyCalls, PromiseTest::newObject, PromiseTest::base, PromiseTest::panel,
+                PromiseTest::panelRefused, PromiseTest::deductionAndGauge, PromiseTest::over, PromiseTest::flat,
+                PromiseTest::flatFirstPair, PromiseTest::wrong, PromiseTest::flatOf, PromiseTest::size,
+                PromiseTest::place, PromiseTest::meets, PromiseTest::moves, PromiseTest::clear, PromiseTest::edge,
+                PromiseTest::order, PromiseTest::step, PromiseTest::count, PromiseTest::check);
         Due.end();
     }
 
@@ -51,6 +36,21 @@ public final class PromiseTest {
 
     private static void dueSame(String name, SheetFolder x, String before) {
         Due.dueTrue(name + ": all is as before", Parts.shown(x).equals(before));
+    }
+
+    /** All twelve bends, and an order to be found anew at every other call. */
+    private static void manyCalls() {
+        Due.sentence("An object is used for at most 512 calls");
+        SheetFolder x = new SheetFolder();
+        due("call 1", x.base(1000, 1000), 1);
+        for (int k = 0; k < 12; k++) {
+            due("call " + (k + 2), x.panel(0, k % 4, k / 4 * 300, 200, 100, UP), k + 1);
+        }
+        for (int call = 14; call < 512; call += 2) {
+            due("call " + call, x.over(), 1);
+            due("call " + (call + 1), x.order(), 12);
+        }
+        due("call 512", x.place(8190, 12, 2), -100);
     }
 
     private static void newObject() {
@@ -88,6 +88,11 @@ public final class PromiseTest {
         due("no side has a bend any more", x.size(0), 60);
         due("the first panel again", x.panel(0, NORTH, 0, 10, 10, UP), 1);
         due("all sides but one are free", x.gauge(60) + x.edge(0, 1), 1 + SOUTH);
+        x.gauge(4000);
+        Parts.dueNoOrder("no order", x);
+        x.base(10, 10);
+        Parts.dueSteps("a new base after a part without an order", x);
+        due("one set after a part without an order", x.count(1), 1);
         SheetFolder y = Parts.flanges(12);
         y.base(10, 10);
         due("there is room for twelve again", y.panel(0, EAST, 0, 10, 10, UP), 1);
@@ -115,13 +120,16 @@ public final class PromiseTest {
 
     private static void baseRefused() {
         Due.sentence("2: 0, and nothing is done");
-        SheetFolder x = Parts.channel(120);
-        x.deduction(4);
-        x.gauge(90);
-        String before = Parts.shown(x);
-        due("too narrow", x.base(0, 5), 0);
-        due("too high", x.base(5, 2001), 0);
-        dueSame("after them", x, before);
+        int[] gauges = {90, 101};
+        for (int gauge : gauges) {
+            SheetFolder x = Parts.channel(120);
+            x.deduction(4);
+            x.gauge(gauge);
+            String before = Parts.shown(x);
+            due("too narrow", x.base(0, 5), 0);
+            due("too high", x.base(5, 2001), 0);
+            dueSame("gauge " + gauge, x, before);
+        }
     }
 
     private static void panel() {
@@ -161,6 +169,10 @@ public final class PromiseTest {
         }
         due("the last parent", x.panel(2, EAST, 0, 1, 1, UP), 3);
         due("the newest one", x.panel(3, EAST, 0, 1, 1, UP), 4);
+        SheetFolder y = Parts.channel(40);
+        y.base(50, 50);
+        due("a parent that is no more", y.panel(1, NORTH, 0, 1, 1, UP), NONE);
+        due("nor the one after it", y.panel(2, NORTH, 0, 1, 1, UP), NONE);
         Due.sentence("3: no such parent, without a base");
         for (int parent = -1; parent < 3; parent++) {
             due("parent " + parent, new SheetFolder().panel(parent, EAST, 0, 1, 1, UP), NONE);
@@ -476,6 +488,10 @@ public final class PromiseTest {
             join(y, 0, side, 0, 50, 50, UP);
             join(y, 0, side, 49, 50, 50, UP);
             Parts.dueWrong("side " + side + ", from 49", y, 2, 1, 2);
+            SheetFolder z = Parts.based(100, 100);
+            join(z, 0, side, 50, 50, 50, UP);
+            join(z, 0, side, 1, 50, 50, UP);
+            Parts.dueWrong("side " + side + ", up to 51", z, 2, 1, 2);
         }
         Due.sentence("7: 2: in the pattern, not in the plan");
         SheetFolder x = Parts.based(100, 100);

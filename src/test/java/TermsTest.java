@@ -15,33 +15,15 @@ public final class TermsTest {
     }
 
     public static void main(String[] args) {
-        atMostThirteen();
-        planOfTheBase();
-        offsetFromTheLeastPlace();
-        bendsFromOneOn();
-        freeSides();
-        halfAtEachSideWithABend();
-        nearerByTheWhole();
-        furtherOnComesAlong();
-        foldedByBits();
-        notFoldedGoesOn();
-        quarterTurns();
-        normalTurnsToo();
-        rightHanded();
-        noDeductionInSpace();
-        meetOnlyAtEdges();
-        meetWithAnEdgeInside();
-        meetInOnePlane();
-        gaugeAtLeastSoLong();
-        gaugeOnFreeSides();
-        gaugeParallelThen();
-        gaugeOfTheLeast();
-        orderOfAllBends();
-        orderEachTurnClear();
-        orderEachWithAnEdge();
-        orderThoseBeforeFolded();
-        orderOfTheLesserBends();
-        constants();
+        Due.run(TermsTest::atMostThirteen, TermsTest::planOfTheBase, TermsTest::offsetFromTheLeastPlace,
+                TermsTest::bendsFromOneOn, TermsTest::freeSides, TermsTest::halfAtEachSideWithABend,
+                TermsTest::nearerByTheWhole, TermsTest::furtherOnComesAlong, TermsTest::foldedByBits,
+                TermsTest::notFoldedGoesOn, TermsTest::quarterTurns, TermsTest::normalTurnsToo,
+                TermsTest::rightHanded, TermsTest::noDeductionInSpace, TermsTest::meetOnlyAtEdges,
+                TermsTest::meetWithAnEdgeInside, TermsTest::meetInOnePlane, TermsTest::gaugeAtLeastSoLong,
+                TermsTest::gaugeOnFreeSides, TermsTest::gaugeParallelThen, TermsTest::gaugeOfTheLeast,
+                TermsTest::orderOfAllBends, TermsTest::orderEachTurnClear, TermsTest::orderEachWithAnEdge,
+                TermsTest::orderThoseBeforeFolded, TermsTest::orderOfTheLesserBends, TermsTest::constants);
         Due.end();
     }
 
@@ -70,7 +52,7 @@ public final class TermsTest {
     }
 
     private static void offsetFromTheLeastPlace() {
-        Due.sentence("It begins at an OFFSET from the side's least place, is so WIDE along it and so DEEP away from it");
+        Due.sentence("It begins at an OFFSET from the side's least place, is so WIDE along it, so DEEP away from it");
         SheetFolder x = Parts.based(100, 80);
         join(x, 0, EAST, 10, 20, 5, UP);
         join(x, 0, NORTH, 10, 20, 5, UP);
@@ -114,6 +96,12 @@ public final class TermsTest {
             due("across side " + side + ", the other one of the base", x.edge(0, 3), (beside + 2) % 4);
             join(x, 0, (beside + 2) % 4, 40, 10, 10, UP);
             due("across side " + side + ", of panel 1", x.edge(0, 3), 4 + beside);
+            SheetFolder y = Parts.based(100, 100);
+            join(y, 0, side, 0, 90, 10, UP);
+            join(y, 0, opposite, 0, 1, 1, UP);
+            due("side " + side + " of panel 1", y.edge(0, 1), 4 + side);
+            join(y, 1, side, 0, 1, 1, UP);
+            due("not the side by which panel 1 is joined itself", y.edge(0, 1), NONE);
         }
     }
 
@@ -158,6 +146,15 @@ public final class TermsTest {
         Parts.dueFlat("joined to the base", x, 1, 95, 0, 115, 80);
         Parts.dueFlat("further on", x, 2, 115, 0, 140, 75);
         Parts.dueFlat("last", x, 3, 110, 75, 140, 100);
+        SheetFolder y = Parts.based(100, 80);
+        y.deduction(10);
+        join(y, 0, SOUTH, 0, 100, 30, UP);
+        join(y, 1, SOUTH, 0, 100, 30, UP);
+        join(y, 2, WEST, 0, 30, 30, UP);
+        Parts.dueFlat("southward, the base", y, 0, 20, 45, 120, 120);
+        Parts.dueFlat("southward, joined to it", y, 1, 20, 25, 120, 45);
+        Parts.dueFlat("southward, further on", y, 2, 25, 0, 120, 25);
+        Parts.dueFlat("southward, last", y, 3, 0, 0, 25, 30);
     }
 
     private static void foldedByBits() {
@@ -180,7 +177,7 @@ public final class TermsTest {
     }
 
     private static void quarterTurns() {
-        Due.sentence("Folded up, what was away from the side stands where its parent's NORMAL leads (down: against it)");
+        Due.sentence("Folded up, what was away from the side stands where its parent's NORMAL leads (down: against)");
         int[][] up = {{100, 10, 0, 100, 30, 30}, {10, 80, 0, 30, 80, 30}, {0, 10, 0, 0, 30, 30}, {10, 0, 0, 30, 0, 30}};
         for (int side = 0; side < 4; side++) {
             int[] down = up[side].clone();

@@ -19,34 +19,15 @@ public final class TurnTest {
     }
 
     public static void main(String[] args) {
-        theLessMove();
-        asManyPanelKs();
-        quadrant0FromMoreThan0();
-        quadrant0NotLess();
-        quadrant1NotMoreThan0();
-        quadrant1More();
-        quadrant2LessThan0();
-        quadrant2NotMore();
-        quadrant3NotLessThan0();
-        quadrant3Less();
-        goesToTheNextOne();
-        goesFrom2To3();
-        goesFrom3To0();
-        goesTheOtherWay();
-        notToTheOneAfter();
-        notToTheOneBefore();
-        inTheSameQuadrant();
-        whereThePanelWillStand();
-        bandFromTheLeast();
-        bandToTheGreatest();
-        bandAtTheLimits();
-        bandsHaveAStretch();
-        butForPanelKAndItsParent();
-        rangesHaveAStretch();
-        movingSinglePlaceInside();
-        fixedSinglePlaceInside();
-        sameSinglePlace();
-        greatestPlaces();
+        Due.run(TurnTest::theLessMove, TurnTest::asManyPanelKs, TurnTest::quadrant0FromMoreThan0,
+                TurnTest::quadrant0NotLess, TurnTest::quadrant1NotMoreThan0, TurnTest::quadrant1More,
+                TurnTest::quadrant2LessThan0, TurnTest::quadrant2NotMore, TurnTest::quadrant3NotLessThan0,
+                TurnTest::quadrant3Less, TurnTest::goesToTheNextOne, TurnTest::goesFrom2To3, TurnTest::goesFrom3To0,
+                TurnTest::goesTheOtherWay, TurnTest::notToTheOneAfter, TurnTest::notToTheOneBefore,
+                TurnTest::inTheSameQuadrant, TurnTest::whereThePanelWillStand, TurnTest::bandFromTheLeast,
+                TurnTest::bandToTheGreatest, TurnTest::bandAtTheLimits, TurnTest::bandsHaveAStretch,
+                TurnTest::butForPanelKAndItsParent, TurnTest::rangesHaveAStretch, TurnTest::movingSinglePlaceInside,
+                TurnTest::fixedSinglePlaceInside, TurnTest::sameSinglePlace, TurnTest::greatestPlaces);
         Due.end();
     }
 
@@ -306,6 +287,10 @@ public final class TurnTest {
         join(y, 0, EAST, 0, 60, 30, UP);
         join(y, 0, EAST, 50, 50, 30, UP);
         due("both in 0", y.clear(0, 1), 0);
+        SheetFolder z = arch(50, UP, 60, 100, UP, 40);
+        hook(z, 1, 30, DOWN);
+        hook(z, 5, 70, DOWN);
+        dueBothWays("both in 2", z, 32 + 64, 0);
         due("both in 1, which do not reach one another", bothIn1(141).clear(4 + 64 + 128, 1), 1);
         due("both in 1", bothIn1(142).clear(4 + 64 + 128, 1), 0);
     }
