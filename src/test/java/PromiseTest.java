@@ -784,9 +784,22 @@ public final class PromiseTest {
         Parts.dueSteps("a new panel", z, 1);
     }
 
+    /** Six walls, 1 to 6, each with a return, 7 to 12, too deep to be turned after its wall; none is near a corner. */
+    private static SheetFolder returns() {
+        SheetFolder x = Parts.based(1000, 1000);
+        for (int k = 0; k < 6; k++) {
+            join(x, 0, k % 4, 300 + k / 4 * 300, 200, 100, UP);
+        }
+        for (int k = 0; k < 6; k++) {
+            join(x, k + 1, k % 4, 0, 200, 101, UP);
+        }
+        return x;
+    }
+
     private static void step() {
         Due.sentence("17: Bend i of the order");
         Parts.dueSteps("channel", Parts.channel(120), 2, 1);
+        Parts.dueSteps("each return before its wall", returns(), 7, 1, 8, 2, 9, 3, 10, 4, 11, 5, 12, 6);
         Parts.dueSteps("twelve", Parts.flanges(12), 1, 2, 3, 4, 5, 6, 7, 8, 9, 10, 11, 12);
         SheetFolder x = Parts.channel(120);
         due("without order() before: 1", x.step(1), 1);
@@ -812,6 +825,8 @@ public final class PromiseTest {
         due("all of four", Parts.channel(50).count(1), 4);
         due("three of four", Parts.channel(51).count(1), 3);
         due("all of 4096", Parts.flanges(12).count(1), 4096);
+        // Of a wall and its return none, the return or both may be folded, not the wall alone.
+        due("three by three by ..", returns().count(1), 729);
         SheetFolder x = Parts.based(100, 100);
         join(x, 0, EAST, 0, 60, 50, UP);
         join(x, 0, EAST, 40, 60, 50, UP);
